@@ -624,8 +624,10 @@ public final class MotionStepper {
 
         /** From a row of the same size. */
         void copy(Row from) {
-            System.arraycopy(from.number, 0, number, 0, number.length);
-            System.arraycopy(from.none, 0, none, 0, none.length);
+            for (int i = 0; i < number.length; i++) {
+                number[i] = from.number[i];
+                none[i] = from.none[i];
+            }
         }
 
         void copyOne(int i, Row from) {
@@ -658,8 +660,13 @@ public final class MotionStepper {
      * no number is remembered until the next begin(), as NaN goes through all operations behind it.
      */
     private static final class Reckoner {
-        final double greatest = 1.7976931348623157E308;
+        /** The greatest FINITE double. */
+        final double greatest;
         boolean none;
+
+        Reckoner() {
+            greatest = 1.7976931348623157E308;
+        }
 
         void begin() {
             none = false;
@@ -757,20 +764,14 @@ public final class MotionStepper {
             if (pointCount == 0) {
                 return 0.0;
             }
-            if (a <= times[0]) {
-                return heights[0];
-            }
-            if (a >= times[pointCount - 1]) {
-                return heights[pointCount - 1];
-            }
             int p = 0;
             for (int i = 1; i < pointCount && times[i] <= a; i++) {
                 p = i;
             }
-            if (!isLine || a == times[p] || p + 1 >= pointCount) {
+            if (!isLine || a <= times[p] || p + 1 >= pointCount) {
                 return heights[p];
             }
-            // All are FINITE, and times rise: no NaN comes of this.
+            // All are FINITE here, and times rise: no NaN comes of this.
             double part = (a - times[p]) / (times[p + 1] - times[p]);
             return heights[p] + (heights[p + 1] - heights[p]) * part;
         }
@@ -902,17 +903,12 @@ public final class MotionStepper {
                 case KIND_POWER:
                     return b == 0 ? 1.0 : reckoner.power(reckoner.read(values, a), b);
                 case KIND_SIGNAL:
-                    return signalled(signals[b], a);
+                    Signal signal = signals[b];
+                    return signal == null || signal.pointCount == 0
+                            ? 0.0 : signal.heightAt(reckoner.read(values, a));
                 default:
                     return constants[q];
             }
-        }
-
-        private double signalled(Signal signal, int a) {
-            if (signal == null || signal.pointCount == 0) {
-                return 0.0;
-            }
-            return signal.heightAt(reckoner.read(values, a));
         }
 
         /** Of a NODE's value as reckoned last: -1 below 0, 0 if it is 0, 1 above, 2 if it is none. */
@@ -989,27 +985,35 @@ public final class MotionStepper {
             x.copy(states);
             error = 0.0;
             gap = 0;
-            return isMade() && z.isFinite(law.n) && end <= reckoner.greatest
-                    && end >= -reckoner.greatest;
-        }
-
-        private boolean isMade() {
+            if (!slope(0, t, x)) {
+                return false;
+            }
+            boolean tame = true;
             switch (method) {
                 case PLAIN:
-                    return plain();
+                    move(z, h, 0);
+                    break;
                 case MIDDLE:
-                    return middle();
+                    tame = middle();
+                    break;
                 case THIRD:
-                    return third();
+                    tame = third();
+                    break;
                 case FOURTH:
-                    return fourth();
+                    tame = fourth();
+                    break;
                 case PAIR:
-                    return pair();
+                    tame = pair();
+                    break;
                 case BACKWARD:
-                    return backward();
+                    tame = backward();
+                    break;
                 default:
-                    return leap();
+                    tame = leap();
+                    break;
             }
+            return tame && z.isFinite(law.n) && end <= reckoner.greatest
+                    && end >= -reckoner.greatest;
         }
 
         /** Row j of k becomes f: false if a value isn't FINITE, as the step is WILD then. */
@@ -1034,25 +1038,12 @@ public final class MotionStepper {
             }
         }
 
-        private boolean plain() {
-            if (!slope(0, t, x)) {
-                return false;
-            }
-            move(z, h, 0);
-            return true;
-        }
-
-        /** k1 and k2, as MIDDLE, THIRD, FOURTH and PAIR have them. */
-        private boolean firstTwo(double g) {
-            if (!slope(0, t, x)) {
-                return false;
-            }
-            move(y, g, 0);
-            return slope(1, t + g, y);
-        }
+        // The written METHODS behind k1, which all have: false if a value in a k isn't FINITE.
 
         private boolean middle() {
-            if (!firstTwo(h / 2.0)) {
+            double g = h / 2.0;
+            move(y, g, 0);
+            if (!slope(1, t + g, y)) {
                 return false;
             }
             move(z, h, 1);
@@ -1060,7 +1051,9 @@ public final class MotionStepper {
         }
 
         private boolean third() {
-            if (!firstTwo(h / 2.0)) {
+            double g = h / 2.0;
+            move(y, g, 0);
+            if (!slope(1, t + g, y)) {
                 return false;
             }
             for (int i = 0; i < law.n; i++) {
@@ -1082,7 +1075,8 @@ public final class MotionStepper {
 
         private boolean fourth() {
             double g = h / 2.0;
-            if (!firstTwo(g)) {
+            move(y, g, 0);
+            if (!slope(1, t + g, y)) {
                 return false;
             }
             move(y, g, 1);
@@ -1104,7 +1098,9 @@ public final class MotionStepper {
         }
 
         private boolean pair() {
-            if (!firstTwo(h / 2.0)) {
+            double g = h / 2.0;
+            move(y, g, 0);
+            if (!slope(1, t + g, y)) {
                 return false;
             }
             double d = (3.0 * h) / 4.0;
@@ -1133,9 +1129,6 @@ public final class MotionStepper {
         }
 
         private boolean backward() {
-            if (!slope(0, t, x)) {
-                return false;
-            }
             move(y, h, 0);
             for (int time = 0; time < 6; time++) {
                 if (!slope(1, t + h, y)) {
@@ -1162,9 +1155,6 @@ public final class MotionStepper {
         private boolean leap() {
             double g = h / 2.0;
             int places = law.n / 2;
-            if (!slope(0, t, x)) {
-                return false;
-            }
             y.copy(x);
             for (int i = places; i < law.n; i++) {
                 reckoner.begin();

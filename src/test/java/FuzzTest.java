@@ -6,21 +6,28 @@ public final class FuzzTest {
     private static final long[] EDGES = {0, 1, -1, 2, 3, -3, 7, 1000, -1000, 1L << 30, 1L << 40,
         (1L << 53) + 1, Long.MAX_VALUE, Long.MIN_VALUE, (1L << 62) + 12345};
 
+    private static final String[] SEEN = {"steps", "rejected", "fired", "wild", "refused",
+        "infinite states", "states that are none", "infinite betweens", "betweens that are none",
+        "values that are none", "halves"};
+
     private final Random chance;
+    /** Runs of large numbers: they leave what is FINITE more often. */
+    private final boolean large;
     private final StringBuilder told = new StringBuilder();
     private MotionStepper desk;
     private Reference due;
     private int wrong;
-    private final long[] seen = new long[5];
+    private final long[] seen = new long[SEEN.length];
 
     private FuzzTest(long seed) {
         chance = new Random(seed);
+        large = seed % 3 == 0;
     }
 
     public static void main(String[] args) {
         int seeds = args.length > 0 ? Integer.parseInt(args[0]) : 3000;
         int wrong = 0;
-        long[] seen = new long[5];
+        long[] seen = new long[SEEN.length];
         for (int seed = 1; seed <= seeds && wrong < 5; seed++) {
             FuzzTest test = new FuzzTest(seed);
             test.go(seed);
@@ -29,11 +36,11 @@ public final class FuzzTest {
                 seen[i] += test.seen[i];
             }
         }
-        System.out.println(seeds + " runs: steps " + seen[0] + ", rejected " + seen[1] + ", fired "
-                + seen[2] + ", wild " + seen[3] + ", refused " + seen[4]);
-        for (long one : seen) {
-            if (one == 0) {
-                System.out.println("the runs leave something untried");
+        System.out.println(seeds + " runs");
+        for (int i = 0; i < seen.length; i++) {
+            System.out.println("  " + SEEN[i] + ": " + seen[i]);
+            if (seen[i] == 0) {
+                System.out.println("the runs leave that untried");
                 wrong++;
             }
         }
@@ -95,6 +102,20 @@ public final class FuzzTest {
         boolean steps = name.equals("step") || name.equals("to");
         if (steps && got == MotionStepper.WILD) seen[3]++;
         if (steps && got == MotionStepper.SMALL) seen[4]++;
+        boolean infinite = (got & Long.MAX_VALUE) == 0x7FF0000000000000L;
+        boolean none = got == MotionStepper.NONE;
+        if (name.equals("state") && infinite) seen[5]++;
+        if (name.equals("state") && none && isThere(args)) seen[6]++;
+        if (name.equals("between") && infinite) seen[7]++;
+        if (name.equals("between") && none && isThere(args) && args[2] > 0
+                && args[2] < 1L << args[3] && desk.count((int) args[0], 2) > 0) seen[8]++;
+        if (name.equals("value") && none && args[0] == 0 && args[1] == 1) seen[9]++;
+        if (name.equals("halves") && !none) seen[10]++;
+    }
+
+    /** RUN and VARIABLE. */
+    private boolean isThere(long[] args) {
+        return !due.noVariable((int) args[0], (int) args[1]);
     }
 
     private void build() {
@@ -106,6 +127,7 @@ public final class FuzzTest {
         int laws = 1 + below(3);
         for (int l = 0; l < laws; l++) {
             law();
+            if (large) heights(l);
             for (int q = 3 + below(14); q > 0; q--) {
                 if (below(4) == 0) constant(l);
                 else node(l);
@@ -119,6 +141,26 @@ public final class FuzzTest {
         }
     }
 
+    /** NODES near the greatest double, early enough for others to be built of them. */
+    private void heights(int l) {
+        constant(l, 1L << 62, 0);
+        node(l, 11, 0, 9, 0);
+        node(l, 11, 0, 7, 0);
+        node(l, 4, 1, 2, 0);
+        constant(l, (1L << 10 + below(21)) - below(2), 0);
+        node(l, 4, 3, 4, 0);
+        node(l, 6, 5, 0, 0);
+        node(l, 1, 0, 0, 0);
+        constant(l, below(9) - 4, below(4));
+        node(l, 3, 7, 8, 0);
+        node(l, 10, 9, 5, below(8));
+        node(l, 10, 9, 6, 5);
+        // 0.0 ahead of a time, and none behind it.
+        node(l, 3, 5, 5, 0);
+        node(l, 5, 12, 12, 0);
+        node(l, 10, 9, 12, 13);
+    }
+
     private void law() {
         int n = below(3) == 0 ? 2 : 1 + below(6);
         int narrow = below(3) == 0 ? below(1 << n) : 0;
@@ -128,8 +170,10 @@ public final class FuzzTest {
     }
 
     private void constant(int l) {
-        long n = amount();
-        int k = power();
+        constant(l, amount(), power());
+    }
+
+    private void constant(int l, long n, int k) {
         check("constant", desk.constant(l, n, k), due.constant(l, n, k), l, n, k);
     }
 
@@ -138,12 +182,16 @@ public final class FuzzTest {
         int kind = below(5) == 0 ? 0 : near(13);
         int a = kind == 0 ? near(3) : near(nodes);
         int b = kind == 11 ? near(10) : kind == 12 ? near(desk.many(1)) : near(nodes);
-        int c = near(nodes);
+        node(l, kind, a, b, near(nodes));
+    }
+
+    private void node(int l, int kind, int a, int b, int c) {
         check("node", desk.node(l, kind, a, b, c), due.node(l, kind, a, b, c), l, kind, a, b, c);
     }
 
     private void side(int l, int i) {
         int q = near(Math.max(0, desk.many(3 + Math.max(0, Math.min(7, l)))));
+        if (large && below(3) > 0) q = 5 + below(10);
         check("side", desk.side(l, i, q), due.side(l, i, q), l, i, q);
     }
 
@@ -196,6 +244,7 @@ public final class FuzzTest {
 
     private void length(int r) {
         long n = below(5) == 0 ? amount() : below(40) - 12;
+        if (large && below(2) == 0) n = (below(2048) - 1024);
         int k = power();
         check("length", desk.length(r, n, k), due.length(r, n, k), r, n, k);
     }
@@ -208,7 +257,7 @@ public final class FuzzTest {
     }
 
     private void event(int r) {
-        int q = near(12);
+        int q = large && below(2) == 0 ? 9 : near(12);
         int direction = near(3) - 1;
         int action = below(3) == 0 ? 0 : near(4);
         int w = near(3);
@@ -251,8 +300,8 @@ public final class FuzzTest {
 
     private void look(int r) {
         int i = near(3);
-        int dice = below(8);
-        if (dice == 0) {
+        int dice = below(large ? 12 : 8);
+        if (dice == 0 || dice > 9) {
             for (i = 0; i < 6; i++) check("state", desk.state(r, i), due.state(r, i), r, i);
         } else if (dice == 1) {
             int what = near(4);
@@ -266,7 +315,7 @@ public final class FuzzTest {
         } else if (dice == 4) {
             int q = near(20);
             check("value", desk.value(r, q), due.value(r, q), r, q);
-        } else if (dice == 5) {
+        } else if (dice == 5 || dice > 7) {
             int k = below(6);
             long n = below(10) == 0 ? amount() : below((1 << k) + 1);
             check("between", desk.between(r, i, n, k), due.between(r, i, n, k), r, i, n, k);
