@@ -1178,9 +1178,8 @@ public final class MotionStepper {
             return true;
         }
 
-        /** The ERROR of a PAIR; all that it looks at is FINITE, as the step is not WILD. */
+        /** The ERROR of a PAIR made last; all that it looks at is FINITE, as it is not WILD. */
         void judge(double absolute, double relative) {
-            error = 0.0;
             for (int i = 0; i < law.n; i++) {
                 double old = size(x.number[i]);
                 double now = size(z.number[i]);

@@ -275,11 +275,14 @@ public final class PromisesTest {
         }
     }
 
-    private static void edgesOfNodeValues() {
+    /** The values of the first NODES of edges(). */
+    private static final double[] EDGES = {0.0, -0.0, 1.0, INFINITY, -INFINITY, Double.NaN, 0x1p62,
+        0x1p558, 0x1p372, 0x1p930, 0x1p41, 0x1p971, 0x1p53 - 1, Double.MAX_VALUE, -Double.MAX_VALUE,
+        0x1p-971, 1 / Double.MAX_VALUE};
+
+    /** LAW 0, whose NODES have the values EDGES, and RUN 0 of it. */
+    private static MotionStepper edges() {
         MotionStepper x = new MotionStepper();
-        x.signal(0);
-        x.signal(1);
-        x.point(1, 0, 5, 0);
         x.law(1, 0);
         x.constant(0, 0, 0);
         x.node(0, 6, 0, 0, 0);
@@ -287,22 +290,39 @@ public final class PromisesTest {
         x.node(0, 5, 2, 0, 0);
         x.node(0, 5, 2, 1, 0);
         x.node(0, 5, 0, 0, 0);
-        x.side(0, 0, 0);
+        x.constant(0, 1L << 62, 0);
+        x.node(0, 11, 6, 9, 0);
+        x.node(0, 11, 6, 6, 0);
+        x.node(0, 4, 7, 8, 0);
+        x.constant(0, 1L << 41, 0);
+        x.node(0, 4, 9, 10, 0);
+        x.constant(0, (1L << 53) - 1, 0);
+        x.node(0, 4, 11, 12, 0);
+        x.node(0, 6, 13, 0, 0);
+        x.node(0, 5, 2, 11, 0);
+        x.node(0, 5, 2, 13, 0);
+        x.side(0, 0, 13);
         x.run(0, 0, 0);
-        double nan = Double.NaN;
-        double[] there = {0.0, -0.0, 1.0, INFINITY, -INFINITY, nan};
-        for (int q = 0; q < there.length; q++) {
-            dueNumber("edge " + q, x.value(0, q), there[q]);
+        return x;
+    }
+
+    private static void edgesOfNodeValues() {
+        MotionStepper x = edges();
+        for (int q = 0; q < EDGES.length; q++) {
+            dueNumber("edge " + q, x.value(0, q), EDGES[q]);
         }
-        int q = there.length;
-        for (int a = 0; a < there.length && q + 20 <= 48; a++) {
-            int[] kinds = {6, 7};
-            for (int kind : kinds) {
-                x.node(0, kind, a, 0, 0);
-                dueNumber("kind " + kind + " of " + there[a], x.value(0, q),
-                        kind == 6 ? -there[a] : Math.abs(there[a]));
-                q++;
-            }
+        due("the greatest is FINITE", x.step(0), 0);
+        dueNumber("its eighth", x.state(0, 0), Double.MAX_VALUE / 8);
+        x.signal(0);
+        x.signal(1);
+        x.point(1, 0, 5, 0);
+        int[] few = {0, 1, 3, 4, 5, 13};
+        int q = EDGES.length;
+        for (int a : few) {
+            x.node(0, 6, a, 0, 0);
+            dueNumber("negated " + EDGES[a], x.value(0, q++), -EDGES[a]);
+            x.node(0, 7, a, 0, 0);
+            dueNumber("size of " + EDGES[a], x.value(0, q++), Math.abs(EDGES[a]));
         }
         x.node(0, 12, 5, 0, 0);
         dueNumber("a signal without points at none", x.value(0, q++), 0.0);
@@ -326,26 +346,18 @@ public final class PromisesTest {
         dueNumber("choice that does not look at none", x.value(0, q++), 1.0);
         x.node(0, 10, 3, 2, 5);
         due("choice of none", x.value(0, q), NONE);
-        pairsOfEdges(there);
+        pairsOfEdges();
     }
 
     /** Every operation of two edges. */
-    private static void pairsOfEdges(double[] there) {
-        for (int a = 0; a < there.length; a++) {
-            for (int b = 0; b < there.length; b++) {
-                MotionStepper x = new MotionStepper();
-                x.law(1, 0);
-                x.constant(0, 0, 0);
-                x.node(0, 6, 0, 0, 0);
-                x.constant(0, 1, 0);
-                x.node(0, 5, 2, 0, 0);
-                x.node(0, 5, 2, 1, 0);
-                x.node(0, 5, 0, 0, 0);
-                x.side(0, 0, 0);
-                x.run(0, 0, 0);
+    private static void pairsOfEdges() {
+        int[] few = {0, 1, 2, 3, 4, 5, 13, 14, 15};
+        for (int a : few) {
+            for (int b : few) {
+                MotionStepper x = edges();
                 int[] kinds = {2, 3, 4, 5, 8, 9};
-                double p = there[a];
-                double q = there[b];
+                double p = EDGES[a];
+                double q = EDGES[b];
                 double[] want =
                     {p + q, p - q, p * q, p / q, Math.min(p, q), Math.max(p, q)};
                 for (int i = 0; i < kinds.length; i++) {
@@ -808,6 +820,12 @@ public final class PromisesTest {
         dueNumber("an error of 0", x.clock(0, 2), 0.0);
         dueNumber("at most 1024", x.clock(0, 1), 1024.0);
         x.length(0, -300, 0);
+        x.step(0);
+        dueNumber("at most -1024", x.clock(0, 1), -1024.0);
+        x.length(0, 1025, 2);
+        x.step(0);
+        dueNumber("at most 1024", x.clock(0, 1), 1024.0);
+        x.length(0, -1025, 2);
         x.step(0);
         dueNumber("at most -1024", x.clock(0, 1), -1024.0);
         x.step(0);
