@@ -75,52 +75,7 @@ public final class PromisesTest {
         System.exit(wrong == 0 ? 0 : 1);
     }
 
-    // ---- desks that several promises use
-
-    /** LAW 0: x' = -x, NODES 0 x, 1 -x; RUN 0 of it at time 0, x = 1. */
-    private static MotionStepper decay() {
-        MotionStepper x = new MotionStepper();
-        x.law(1, 0);
-        x.node(0, 0, 0, 0, 0);
-        x.node(0, 6, 0, 0, 0);
-        x.side(0, 0, 1);
-        x.run(0, 0, 0);
-        x.set(0, 0, 1, 0);
-        return x;
-    }
-
-    /** LAW 0: x' = 1; NODES 0 t, 1 x, 2 the number 1, 3 x - 1; RUN 0 at time 0, x = 0, LENGTH 1. */
-    private static MotionStepper climb() {
-        MotionStepper x = new MotionStepper();
-        x.law(1, 0);
-        x.node(0, 1, 0, 0, 0);
-        x.node(0, 0, 0, 0, 0);
-        x.constant(0, 1, 0);
-        x.node(0, 3, 1, 2, 0);
-        x.side(0, 0, 2);
-        x.run(0, 0, 0);
-        x.length(0, 1, 0);
-        return x;
-    }
-
-    /** LAW 0: x0' = x1, x1' = t - x0; RUN 0 at time 1, x = (3, 2), LENGTH 0.375. */
-    private static MotionStepper swing(int narrow) {
-        MotionStepper x = new MotionStepper();
-        x.law(2, narrow);
-        x.node(0, 0, 0, 0, 0);
-        x.node(0, 0, 1, 0, 0);
-        x.node(0, 1, 0, 0, 0);
-        x.node(0, 3, 2, 0, 0);
-        x.side(0, 0, 1);
-        x.side(0, 1, 3);
-        x.run(0, 1, 0);
-        x.set(0, 0, 3, 0);
-        x.set(0, 1, 2, 0);
-        x.length(0, 3, 3);
-        return x;
-    }
-
-    /** The SIDES of swing(). */
+    /** The SIDES of Desks.swing(). */
     private static double[] f(double t, double[] x) {
         return new double[] {x[1], t - x[0]};
     }
@@ -139,9 +94,9 @@ public final class PromisesTest {
         due("a law of a new object", x.constant(0, 1, 0), NUMBER);
         due("a signal of a new object", x.point(0, 0, 0, 0), NUMBER);
         due("a run of a new object", x.step(0), NUMBER);
-        decay();
+        Desks.decay();
         due("another object's laws", x.many(0), 0);
-        MotionStepper y = decay();
+        MotionStepper y = Desks.decay();
         for (int p = 0; p < 4; p++) {
             due("nothing kept", y.back(0, p), STATE);
         }
@@ -508,7 +463,7 @@ public final class PromisesTest {
     }
 
     private static void firstTolerances() {
-        MotionStepper x = decay();
+        MotionStepper x = Desks.decay();
         x.set(0, 0, 1 << 20, 0);
         x.method(0, 4);
         x.length(0, 1, 10);
@@ -519,7 +474,7 @@ public final class PromisesTest {
     }
 
     private static void set() {
-        MotionStepper x = swing(2);
+        MotionStepper x = Desks.swing(2);
         due("set of no run", x.set(1, 0, 0, 0), NUMBER);
         due("set of no run", x.set(-1, 0, 0, 0), NUMBER);
         due("set of no variable", x.set(0, 2, 0, 0), NUMBER);
@@ -531,7 +486,7 @@ public final class PromisesTest {
         dueNumber("narrow", x.state(0, 1), (float) ((double) ((1L << 25) + 3) / 8));
         due("set", x.set(0, 1, Long.MIN_VALUE, 0), 1);
         dueNumber("narrow", x.state(0, 1), (float) -0x1p63);
-        MotionStepper y = climb();
+        MotionStepper y = Desks.climb();
         y.event(0, 3, 1, 1, 0);
         y.step(0);
         due("ended", y.count(0, 5), 1);
@@ -541,7 +496,7 @@ public final class PromisesTest {
     }
 
     private static void method() {
-        MotionStepper x = decay();
+        MotionStepper x = Desks.decay();
         due("method of no run", x.method(1, 0), NUMBER);
         due("method of no run", x.method(-1, 0), NUMBER);
         due("method -1", x.method(0, -1), NUMBER);
@@ -552,11 +507,11 @@ public final class PromisesTest {
         }
         due("leap of one variable", x.method(0, 6), STATE);
         due("it stays", x.count(0, 1), 0);
-        due("leap of two variables", swing(0).method(0, 6), 1);
+        due("leap of two variables", Desks.swing(0).method(0, 6), 1);
     }
 
     private static void length() {
-        MotionStepper x = decay();
+        MotionStepper x = Desks.decay();
         due("length of no run", x.length(1, 1, 0), NUMBER);
         due("length, k 31", x.length(0, 1, 31), NUMBER);
         due("length, k -1", x.length(0, 1, -1), NUMBER);
@@ -576,7 +531,7 @@ public final class PromisesTest {
     }
 
     private static void tolerance() {
-        MotionStepper x = decay();
+        MotionStepper x = Desks.decay();
         due("tolerance of no run", x.tolerance(1, 1, 0, 0), NUMBER);
         due("tolerance, k 31", x.tolerance(0, 1, 0, 31), NUMBER);
         due("tolerance, a 0", x.tolerance(0, 0, 0, 0), NUMBER);
@@ -585,7 +540,7 @@ public final class PromisesTest {
         due("tolerance", x.tolerance(0, MOST, MOST, 0), 1);
         long[][] pairs = {{1, 0}, {1, 1}, {3, 5}};
         for (long[] pair : pairs) {
-            x = decay();
+            x = Desks.decay();
             x.method(0, 4);
             x.length(0, 1, 1);
             due("tolerance", x.tolerance(0, pair[0], pair[1], 0), 1);
@@ -597,7 +552,7 @@ public final class PromisesTest {
     }
 
     private static void event() {
-        MotionStepper x = climb();
+        MotionStepper x = Desks.climb();
         due("event of no run", x.event(1, 0, 0, 0, 0), NUMBER);
         due("event of no run", x.event(-1, 0, 0, 0, 0), NUMBER);
         due("event of no node", x.event(0, 4, 0, 0, 0), NUMBER);
@@ -617,7 +572,7 @@ public final class PromisesTest {
     // ---- promise 15: steps
 
     private static void step() {
-        MotionStepper x = decay();
+        MotionStepper x = Desks.decay();
         due("step of no run", x.step(1), NUMBER);
         due("step of no run", x.step(-1), NUMBER);
         due("step", x.step(0), 0);
@@ -627,7 +582,7 @@ public final class PromisesTest {
         x.length(0, -1, 3);
         due("step back in time", x.step(0), 0);
         dueNumber("time", x.clock(0, 0), 0.0);
-        MotionStepper y = climb();
+        MotionStepper y = Desks.climb();
         y.event(0, 3, 0, 1, 0);
         due("step", y.step(0), 0);
         due("step of an ended one", y.step(0), STATE);
@@ -635,7 +590,7 @@ public final class PromisesTest {
     }
 
     private static void dueStep(String what, int method, double[] want, double[][] stages) {
-        MotionStepper x = swing(0);
+        MotionStepper x = Desks.swing(0);
         x.method(0, method);
         due(what, x.step(0), 0);
         dueNumber(what + " 0", x.state(0, 0), want[0]);
@@ -698,7 +653,7 @@ public final class PromisesTest {
         for (int i = 0; i < 2; i++) {
             e[i] = (h / 72) * (((6 * k2[i] + 8 * k3[i]) - 5 * k1[i]) - 9 * k4[i]);
         }
-        MotionStepper desk = swing(0);
+        MotionStepper desk = Desks.swing(0);
         desk.method(0, 4);
         desk.tolerance(0, 1, 0, 0);
         due("PAIR", desk.step(0), 0);
@@ -713,7 +668,7 @@ public final class PromisesTest {
     }
 
     private static void gaps(int want) {
-        MotionStepper x = swing(0);
+        MotionStepper x = Desks.swing(0);
         x.method(0, 5);
         x.step(0);
         due("GAP", x.count(0, 4), want);
@@ -721,14 +676,14 @@ public final class PromisesTest {
         x.method(0, 0);
         x.step(0);
         due("GAP of another method", x.count(0, 4), 0);
-        x = climb();
+        x = Desks.climb();
         x.method(0, 5);
         x.step(0);
         due("GAP of what stands", x.count(0, 4), 0);
     }
 
     private static void narrowSteps() {
-        MotionStepper x = swing(1);
+        MotionStepper x = Desks.swing(1);
         x.set(0, 0, 1, 3);
         x.set(0, 1, (1L << 40) + 1, 40 - 10);
         x.method(0, 1);
@@ -744,7 +699,7 @@ public final class PromisesTest {
     }
 
     private static void wildSteps() {
-        MotionStepper x = decay();
+        MotionStepper x = Desks.decay();
         x.law(1, 1);
         x.constant(1, 1L << 62, 0);
         x.node(1, 11, 0, 2, 0);
@@ -798,7 +753,7 @@ public final class PromisesTest {
     private static void pairControl() {
         int[] rejected = new int[6];
         for (int i = 0; i < rejected.length; i++) {
-            MotionStepper x = decay();
+            MotionStepper x = Desks.decay();
             x.method(0, 4);
             x.length(0, 2, 0);
             x.tolerance(0, 1L << 5 * (5 - i), 0, 24);
@@ -813,7 +768,7 @@ public final class PromisesTest {
         }
         due("not rejected", rejected[0], 0);
         due("rejected", rejected[5] > 2 ? 1 : 0, 1);
-        MotionStepper x = climb();
+        MotionStepper x = Desks.climb();
         x.method(0, 4);
         x.length(0, 512, 0);
         x.step(0);
@@ -929,7 +884,7 @@ public final class PromisesTest {
     // ---- promise 16
 
     private static void to() {
-        MotionStepper x = decay();
+        MotionStepper x = Desks.decay();
         due("to of no run", x.to(1, 1, 0, 1), NUMBER);
         due("to of no run", x.to(-1, 1, 0, 1), NUMBER);
         due("to, k 31", x.to(0, 1, 31, 1), NUMBER);
@@ -948,7 +903,7 @@ public final class PromisesTest {
         due("to, back in time", x.to(0, 1, 0, 3), 2);
         dueNumber("time", x.clock(0, 0), 1.0);
         dueNumber("h of the last one", x.clock(0, 3), -0.125);
-        MotionStepper y = climb();
+        MotionStepper y = Desks.climb();
         y.event(0, 3, 1, 1, 0);
         y.length(0, 3, 2);
         due("to an end", y.to(0, 9, 0, 200), 2);
@@ -959,7 +914,7 @@ public final class PromisesTest {
     }
 
     private static void toIsCut() {
-        MotionStepper x = climb();
+        MotionStepper x = Desks.climb();
         x.length(0, 3, 3);
         due("steps", x.to(0, 1, 0, 200), 3);
         dueNumber("h", x.clock(0, 3), 0.25);
@@ -1025,7 +980,7 @@ public final class PromisesTest {
     }
 
     private static void toWithControl() {
-        MotionStepper x = climb();
+        MotionStepper x = Desks.climb();
         x.method(0, 4);
         x.length(0, 1, 0);
         due("a cut PAIR", x.to(0, 1, 1, 9), 1);
@@ -1036,7 +991,7 @@ public final class PromisesTest {
         dueNumber("the length has grown", x.clock(0, 1), 16.0);
         dueNumber("T", x.clock(0, 0), 20.0);
         // A cut one that is REJECTED is not cut any more, and the length is that of the new one.
-        MotionStepper y = decay();
+        MotionStepper y = Desks.decay();
         y.method(0, 4);
         y.tolerance(0, 1, 0, 10);
         y.length(0, 16, 0);
@@ -1079,7 +1034,7 @@ public final class PromisesTest {
     // ---- promises 17 to 22
 
     private static void state() {
-        MotionStepper x = swing(0);
+        MotionStepper x = Desks.swing(0);
         dueNumber("state 0", x.state(0, 0), 3.0);
         dueNumber("state 1", x.state(0, 1), 2.0);
         due("state 2", x.state(0, 2), NONE);
@@ -1126,7 +1081,7 @@ public final class PromisesTest {
     }
 
     private static void clock() {
-        MotionStepper x = decay();
+        MotionStepper x = Desks.decay();
         due("clock of no run", x.clock(1, 0), NONE);
         due("clock of no run", x.clock(-1, 0), NONE);
         due("clock 4", x.clock(0, 4), NONE);
@@ -1148,7 +1103,7 @@ public final class PromisesTest {
     }
 
     private static void count() {
-        MotionStepper x = decay();
+        MotionStepper x = Desks.decay();
         due("count of no run", x.count(1, 0), NUMBER);
         due("count of no run", x.count(-1, 0), NUMBER);
         due("count 8", x.count(0, 8), NUMBER);
@@ -1171,7 +1126,7 @@ public final class PromisesTest {
     }
 
     private static void stage() {
-        MotionStepper x = swing(0);
+        MotionStepper x = Desks.swing(0);
         due("no step yet", x.stage(0, 1, 0), NONE);
         x.method(0, 4);
         x.tolerance(0, 1, 0, 0);
@@ -1191,7 +1146,7 @@ public final class PromisesTest {
     }
 
     private static void value() {
-        MotionStepper x = climb();
+        MotionStepper x = Desks.climb();
         due("value of no run", x.value(1, 0), NONE);
         due("value of no node", x.value(0, 4), NONE);
         due("value of no node", x.value(0, -1), NONE);
@@ -1205,7 +1160,7 @@ public final class PromisesTest {
     }
 
     private static void between() {
-        MotionStepper x = swing(1);
+        MotionStepper x = Desks.swing(1);
         due("no step yet", x.between(0, 0, 0, 0), NONE);
         x.method(0, 3);
         x.step(0);
@@ -1260,19 +1215,19 @@ public final class PromisesTest {
         // x goes from 0 to 2 in steps of 0.75: x - 1 rises in the second one.
         int[] directions = {-1, 0, 1};
         for (int direction : directions) {
-            MotionStepper x = climb();
+            MotionStepper x = Desks.climb();
             x.length(0, 3, 2);
             x.event(0, 3, direction, 0, 0);
             x.to(0, 2, 0, 9);
             due("a rise by " + direction, x.count(0, 7), direction == -1 ? 0 : 1);
-            MotionStepper y = climb();
+            MotionStepper y = Desks.climb();
             y.set(0, 0, 2, 0);
             y.length(0, -3, 2);
             y.event(0, 3, direction, 0, 0);
             y.to(0, -2, 0, 9);
             due("a fall by " + direction, y.count(0, 7), direction == 1 ? 0 : 1);
         }
-        MotionStepper x = climb();
+        MotionStepper x = Desks.climb();
         x.event(0, 3, 0, 0, 0);
         x.step(0);
         due("a rise to 0", x.count(0, 7), 1);
@@ -1289,7 +1244,7 @@ public final class PromisesTest {
 
     /** 30 halves of a cubic that is a line here: high is the least of 2^-30 at or behind 1/3. */
     private static void high() {
-        MotionStepper x = climb();
+        MotionStepper x = Desks.climb();
         x.constant(0, 1, 2);
         x.node(0, 3, 1, 4, 0);
         x.constant(0, 3, 0);
@@ -1312,7 +1267,7 @@ public final class PromisesTest {
 
     private static void orderOfEvents() {
         // Of equals by number; those behind the first one that acts are not FIRED.
-        MotionStepper x = climb();
+        MotionStepper x = Desks.climb();
         x.length(0, 4, 0);
         x.event(0, 3, 1, 0, 0);
         x.event(0, 3, 0, 3, 0);
@@ -1326,7 +1281,7 @@ public final class PromisesTest {
         dueNumber("time", x.clock(0, 0), 1.0);
         dueNumber("state", x.state(0, 0), 1.0);
         // A later one that acts does not keep an earlier one from it.
-        MotionStepper y = climb();
+        MotionStepper y = Desks.climb();
         y.length(0, 4, 0);
         y.constant(0, 2, 0);
         y.node(0, 3, 0, 4, 0);
@@ -1342,7 +1297,7 @@ public final class PromisesTest {
     }
 
     private static void actions() {
-        MotionStepper x = climb();
+        MotionStepper x = Desks.climb();
         x.length(0, 4, 0);
         x.event(0, 3, 1, 2, 7);
         x.step(0);
@@ -1350,7 +1305,7 @@ public final class PromisesTest {
         dueNumber("time", x.clock(0, 0), 1.0);
         due("not ended", x.count(0, 5), 0);
         // Variable 1 of two, at the very end of a step: the state isn't between's then.
-        MotionStepper y = swing(0);
+        MotionStepper y = Desks.swing(0);
         y.constant(0, 11, 3);
         y.node(0, 3, 2, 4, 0);
         y.event(0, 5, 1, 2, 1);
@@ -1359,13 +1314,13 @@ public final class PromisesTest {
         dueNumber("1 is negated", y.state(0, 1), -(2.0 + 0.375 * -2.0));
         dueNumber("at the end", y.clock(0, 0), 1.375);
         // A 0.0 becomes -0.0.
-        MotionStepper z = climb();
+        MotionStepper z = Desks.climb();
         z.set(0, 0, -1, 0);
         z.event(0, 1, 1, 2, -1);
         z.step(0);
         dueNumber("-0.0", z.state(0, 0), -0.0);
         // With to(): an EVENT that brings the time back isn't followed by T, one at the end is.
-        MotionStepper w = climb();
+        MotionStepper w = Desks.climb();
         w.length(0, 4, 0);
         w.event(0, 3, 1, 3, 0);
         due("one", w.to(0, 2, 0, 1), 1);
@@ -1450,7 +1405,7 @@ public final class PromisesTest {
 
     private static void fired() {
         // x' = 1, and x is brought to -1 at every 1: an event in each step of 2.
-        MotionStepper x = climb();
+        MotionStepper x = Desks.climb();
         x.length(0, 2, 0);
         x.event(0, 3, 1, 2, 0);
         due("none yet", x.fired(0, 0, 0), NONE);
@@ -1473,7 +1428,7 @@ public final class PromisesTest {
     // ---- promises 24 to 27
 
     private static void halves() {
-        MotionStepper x = swing(0);
+        MotionStepper x = Desks.swing(0);
         x.method(0, 1);
         x.keep(0, 0);
         double h = 0.375;
@@ -1487,13 +1442,13 @@ public final class PromisesTest {
         due("halves of no run", x.halves(1, 0), NONE);
         due("halves of no variable", x.halves(0, 2), NONE);
         due("halves of no variable", x.halves(0, -1), NONE);
-        MotionStepper y = climb();
+        MotionStepper y = Desks.climb();
         y.event(0, 3, 1, 1, 0);
         dueNumber("without events", y.halves(0, 0), 0.0);
         y.step(0);
         due("ended", y.halves(0, 0), NONE);
         // Without control: a PAIR that would be rejected.
-        MotionStepper z = decay();
+        MotionStepper z = Desks.decay();
         z.method(0, 4);
         z.length(0, 8, 0);
         due("a long PAIR", z.halves(0, 0) != NONE ? 1 : 0, 1);
@@ -1515,14 +1470,14 @@ public final class PromisesTest {
         due("the whole one is wild", w.halves(0, 0), NONE);
     }
 
-    /** MIDDLE, of swing(). */
+    /** MIDDLE, of Desks.swing(). */
     private static double[] middle(double t, double[] x, double h) {
         double g = h / 2;
         return plus(x, h, f(t + g, plus(x, g, f(t, x))));
     }
 
     private static void keepAndBack() {
-        MotionStepper x = climb();
+        MotionStepper x = Desks.climb();
         due("keep of no run", x.keep(1, 0), NUMBER);
         due("keep of no run", x.keep(-1, 0), NUMBER);
         due("place 4", x.keep(0, 4), NUMBER);
@@ -1561,7 +1516,7 @@ public final class PromisesTest {
 
     /** All that a RUN is comes back in another RUN, too. */
     private static void backInAnotherRun() {
-        MotionStepper x = swing(0);
+        MotionStepper x = Desks.swing(0);
         x.constant(0, 4, 0);
         x.node(0, 3, 0, 4, 0);
         x.run(0, 0, 0);
@@ -1595,7 +1550,7 @@ public final class PromisesTest {
     }
 
     private static void backToAnotherLaw() {
-        MotionStepper x = swing(0);
+        MotionStepper x = Desks.swing(0);
         x.law(1, 0);
         x.constant(1, 1, 0);
         x.side(1, 0, 0);
@@ -1618,7 +1573,7 @@ public final class PromisesTest {
     }
 
     private static void unlike() {
-        MotionStepper x = swing(0);
+        MotionStepper x = Desks.swing(0);
         due("unlike of no run", x.unlike(1, 0), NUMBER);
         due("unlike, place 4", x.unlike(0, 4), NUMBER);
         due("unlike, place -1", x.unlike(0, -1), NUMBER);
@@ -1635,7 +1590,7 @@ public final class PromisesTest {
         x.step(0);
         due("all", x.unlike(0, 0), 4);
         // 0.0 and -0.0 are equal by value, and unlike by bits.
-        MotionStepper y = climb();
+        MotionStepper y = Desks.climb();
         y.set(0, 0, -1, 0);
         y.event(0, 1, 1, 2, 0);
         y.step(0);
