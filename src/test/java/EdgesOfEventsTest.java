@@ -162,6 +162,9 @@ public final class EdgesOfEventsTest {
             Edges.dueNumber("x1", x.between(0, 0, UNIT, 30), 7.0);
             Edges.dueNumber("the first behind 0", x.between(0, 0, 1, 30), -a);
             Edges.dueNumber("the last ahead of 1", x.between(0, 0, UNIT - 1, 30), -a);
+            Edges.dueNumber("x0 again", x.between(0, 0, 0, 0), 5.0);
+            Edges.dueNumber("the middle", x.between(0, 0, 1, 1), -a);
+            Edges.dueNumber("x1 again", x.between(0, 0, 1, 0), 7.0);
         }
         // x0 is -0.0, which a sum with 0.0 would lose.
         Timed timed = new Timed();
@@ -434,6 +437,7 @@ public final class EdgesOfEventsTest {
         x.desk.step(0);
         Edges.dueNumber("action 0 brings nothing back", x.desk.clock(0, 0), 1.0);
         Edges.dueNumber("nor the state", x.desk.state(0, 0), 1.0);
+        sixBroughtBack();
         double[] limits = {LEAST, 1 / 3.0, 0.5, 1 - 0x1p-30, 1.0};
         for (double c : limits) {
             LawMaker law = new LawMaker(new MotionStepper(), 2, 2);
@@ -453,6 +457,26 @@ public final class EdgesOfEventsTest {
             for (int i = 0; i < 2; i++) {
                 Edges.due("state " + i, y.state(0, i), y.between(0, i, (long) (high * UNIT), 30));
             }
+        }
+    }
+
+    /** All of six VARIABLES are brought back. */
+    private static void sixBroughtBack() {
+        LawMaker law = new LawMaker(new MotionStepper(), 6, 0);
+        int time = law.time();
+        for (int i = 0; i < 6; i++) {
+            law.side(i, law.constant(1 + i, 0));
+        }
+        int q = law.node(3, time, law.number(0.25), 0);
+        law.run(0, 0);
+        MotionStepper x = law.desk;
+        x.length(0, 1, 0);
+        x.event(0, q, 1, 2, 5);
+        x.step(0);
+        Edges.dueNumber("time", x.clock(0, 0), 0.25);
+        for (int i = 0; i < 6; i++) {
+            double there = 0.25 * (1 + i);
+            Edges.dueNumber("variable " + i, x.state(0, i), i == 5 ? -there : there);
         }
     }
 

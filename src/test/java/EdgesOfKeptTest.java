@@ -55,6 +55,7 @@ public final class EdgesOfKeptTest {
         Edges.due("steps", x.to(1, 30, 0, 40), x.to(0, 30, 0, 40));
         dueAlike("behind steps", x);
         Edges.dueTrue("more FIRED", x.count(1, 7) > 4);
+        eventsAreKept();
         // A RUN that is ENDED; and one of another LAW.
         MotionStepper y = Desks.climb();
         y.law(2, 0);
@@ -78,6 +79,41 @@ public final class EdgesOfKeptTest {
         Edges.due("no EVENTS", y.count(0, 6), 0);
         Edges.due("no step yet", y.stage(0, 1, 0), NONE);
         Edges.dueNumber("time", y.clock(0, 0), 7.0);
+    }
+
+    /** x0' = x1, x1' = -x0, where x1 is negated at each rise of x0 to 0.5; all four EVENTS FIRE. */
+    private static void eventsAreKept() {
+        LawMaker law = new LawMaker(new MotionStepper(), 2, 0);
+        int place = law.state(0);
+        int speed = law.state(1);
+        int above = law.node(3, place, law.constant(1, 1), 0);
+        law.side(0, speed).side(1, law.node(6, place, 0, 0));
+        law.run(0, 0);
+        law.run(0, 0);
+        MotionStepper x = law.desk;
+        x.set(0, 0, -1, 0);
+        x.method(0, 6);
+        x.event(0, place, 1, 0, 0);
+        x.event(0, place, -1, 0, 0);
+        x.event(0, speed, 0, 0, 0);
+        x.event(0, above, 1, 2, 1);
+        Edges.due("steps", x.to(0, 8, 0, 100) > 9 ? 1 : 0, 1);
+        x.keep(0, 0);
+        x.back(1, 0);
+        int before = x.count(1, 7);
+        Edges.due("steps", x.to(1, 20, 0, 150), x.to(0, 20, 0, 150));
+        Edges.due("FIRED", x.count(1, 7), x.count(0, 7));
+        int[] first = new int[4];
+        int[] second = new int[4];
+        for (int j = 0; j < x.count(0, 7); j++) {
+            Edges.due("number of " + j, x.fired(1, j, 0), x.fired(0, j, 0));
+            Edges.due("time of " + j, x.fired(1, j, 1), x.fired(0, j, 1));
+            (j < before ? first : second)[(int) x.fired(0, j, 0)]++;
+        }
+        for (int j = 0; j < 4; j++) {
+            Edges.dueTrue("EVENT " + j + " ahead and behind", first[j] > 0 && second[j] > 0);
+        }
+        Edges.due("state", x.state(1, 1), x.state(0, 1));
     }
 
     private static void dueAlike(String when, MotionStepper x) {
@@ -219,6 +255,7 @@ public final class EdgesOfKeptTest {
         y.keep(0, 0);
         y.set(0, 0, 0, 0);
         Edges.due("0.0 and -0.0", y.unlike(0, 0), 1);
+        none();
         // The time alone: x' = 0.
         LawMaker law = new LawMaker(new MotionStepper(), 1, 0);
         law.side(0, law.constant(0, 0));
@@ -227,6 +264,37 @@ public final class EdgesOfKeptTest {
         law.desk.step(0);
         Edges.due("time", law.desk.unlike(0, 0), 1);
         Edges.due("counts are none of these", law.desk.count(0, 2), 1);
+    }
+
+    /** A state that is none: an EVENT at 0.5 in a step to time 1, where x0' is none. */
+    private static void none() {
+        LawMaker law = new LawMaker(new MotionStepper(), 2, 0);
+        int time = law.time();
+        law.side(0, law.table(time, new double[] {1}, new double[] {2, Double.NaN}));
+        law.side(1, law.constant(2, 0));
+        int q = law.node(3, time, law.number(0.5), 0);
+        law.run(0, 0);
+        law.run(0, 0);
+        MotionStepper x = law.desk;
+        x.length(0, 1, 0);
+        x.event(0, q, 1, 3, 0);
+        x.step(0);
+        Edges.due("state 0 is none", x.state(0, 0), NONE);
+        Edges.dueNumber("state 1 is a NUMBER", x.state(0, 1), 1.0);
+        Edges.due("0 between is none", x.between(0, 0, 1, 2), NONE);
+        Edges.dueNumber("1 between isn't", x.between(0, 1, 1, 2), 0.5);
+        x.keep(0, 0);
+        Edges.due("none is like none", x.unlike(0, 0), 0);
+        x.set(0, 0, 0, 0);
+        Edges.due("none is unlike 0.0", x.unlike(0, 0), 1);
+        x.back(0, 0);
+        Edges.due("none comes back", x.state(0, 0), NONE);
+        x.back(1, 0);
+        Edges.due("none comes back in another RUN", x.state(1, 0), NONE);
+        Edges.dueNumber("what isn't, too", x.state(1, 1), 1.0);
+        Edges.due("0 between is none there, too", x.between(1, 0, 1, 2), NONE);
+        Edges.due("it is WILD from there", x.step(1), MotionStepper.WILD);
+        Edges.due("no halves", x.halves(1, 1), NONE);
     }
 
     private static void otherNumbers() {

@@ -79,6 +79,10 @@ public final class EdgesOfLawsTest {
         }
         Edges.due("law 8", x.law(1, 0), FULL);
         Edges.due("laws", x.many(0), 8);
+        Edges.due("a node of law 8", x.node(8, 1, 0, 0, 0), NUMBER);
+        Edges.due("a constant of law 8", x.constant(8, 1, 0), NUMBER);
+        Edges.due("a side of law 8", x.side(8, 0, 0), NUMBER);
+        Edges.due("a run of law 8", x.run(8, 0, 0), NUMBER);
         for (int l = 0; l < 8; l++) {
             Edges.due("the last state of law " + l, x.node(l, 0, l % 6, 0, 0), 0);
             Edges.due("a state behind it", x.node(l, 0, l % 6 + 1, 0, 0), NUMBER);
@@ -329,6 +333,21 @@ public final class EdgesOfLawsTest {
         z.back(0, 0);
         Edges.due("of a law that no run has any more", z.side(0, 0, 1), 1);
         Edges.due("of a law that both have", z.side(1, 0, 0), STATE);
+        // Any one of four, and none of four.
+        for (int which = 0; which < 4; which++) {
+            MotionStepper w = new MotionStepper();
+            for (int l = 0; l < 3; l++) {
+                w.law(1, 0);
+                w.constant(l, 1, 0);
+                w.side(l, 0, 0);
+            }
+            for (int r = 0; r < 4; r++) {
+                w.run(r == which ? 1 : 0, 0, 0);
+            }
+            Edges.due("of the law of run " + which, w.side(1, 0, 0), STATE);
+            Edges.due("of the law of the others", w.side(0, 0, 0), STATE);
+            Edges.due("of a law of none of them", w.side(2, 0, 0), 1);
+        }
     }
 
     private static void signal() {
@@ -345,6 +364,7 @@ public final class EdgesOfLawsTest {
         }
         Edges.due("signal 8", x.signal(1), FULL);
         Edges.due("signal 8 of no number", x.signal(2), NUMBER);
+        Edges.due("a point of signal 8", x.point(8, 9, 0, 0), NUMBER);
         Edges.due("signals", x.many(1), 8);
         LawMaker law = new LawMaker(x, 1, 0);
         int at = law.constant(2, 0);

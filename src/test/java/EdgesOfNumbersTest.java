@@ -149,6 +149,17 @@ public final class EdgesOfNumbersTest {
         dueKind(4, 0.0, INFINITY, NAN);
         dueKind(4, -INFINITY, 0.0, NAN);
         dueKind(4, 1 + 0x1p-52, 1 + 0x1p-52, 1 + 0x1p-51);
+        // Each of the edges with each.
+        double[] numbers = {0.0, -0.0, 1.0, -1.0, LEAST, -LEAST, GREATEST, -GREATEST, INFINITY, -INFINITY,
+            NAN};
+        for (double a : numbers) {
+            for (double b : numbers) {
+                dueKind(2, a, b, a + b);
+                dueKind(3, a, b, a - b);
+                dueKind(4, a, b, a * b);
+                dueKind(5, a, b, a / b);
+            }
+        }
     }
 
     private static void quotient() {
@@ -183,6 +194,16 @@ public final class EdgesOfNumbersTest {
         Edges.dueNumber("node 46", law.desk.value(r, 46), 46.0);
         Edges.dueNumber("node 47", law.desk.value(r, 47), 3.0);
         Edges.due("node 48", law.desk.value(r, 48), NONE);
+        // Node 47 is a side, and one of an event.
+        law.desk.length(r, 3, 0);
+        law.desk.event(r, 47, 1, 3, 0);
+        Edges.due("a step by node 47", law.desk.step(r), 0);
+        Edges.dueNumber("k1", law.desk.stage(r, 1, 0), 3.0);
+        law.desk.length(r, -12, 0);
+        law.desk.step(r);
+        law.desk.length(r, 8, 0);
+        law.desk.step(r);
+        Edges.dueNumber("an event of node 47 at 0", law.desk.clock(r, 0), 0.0);
         new LawMaker(law.desk, 1, 0);
         Edges.due("another law begins at 0", law.desk.constant(1, 1, 0), 0);
     }

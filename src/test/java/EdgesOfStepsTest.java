@@ -13,7 +13,27 @@ public final class EdgesOfStepsTest {
     private static final double[] NOT_FINITE = {INFINITY, -INFINITY, NAN};
     private static final long UNIT = 1L << 30;
 
+    /** The written METHODS, as the document has them. */
+    private static final String[] METHODS = {
+        "0 PLAIN: k1 = f(t, x); y = x + h * k1.",
+        "1 MIDDLE: k1 = f(t, x); y = x + g * k1; k2 = f(t + g, y); z = x + h * k2.",
+        "2 THIRD: k1 = f(t, x); y = x + g * k1; k2 = f(t + g, y); y = x + h * (2 * k2 - k1); k3 = f(t + h, "
+            + "y); z = x + (h / 6) * ((k1 + 4 * k2) + k3).",
+        "3 FOURTH: k1 = f(t, x); y = x + g * k1; k2 = f(t + g, y); y = x + g * k2; k3 = f(t + g, y); y = x "
+            + "+ h * k3; k4 = f(t + h, y); z = x + (h / 6) * (((k1 + 2 * k2) + 2 * k3) + k4).",
+        "4 PAIR: k1 = f(t, x); y = x + g * k1; k2 = f(t + g, y); d is (3 * h) / 4; y = x + d * k2; k3 = f(t "
+            + "+ d, y); z = x + (h / 9) * ((2 * k1 + 3 * k2) + 4 * k3); k4 = f(t + h, z); e = (h / 72) * "
+            + "(((6 * k2 + 8 * k3) - 5 * k1) - 9 * k4) (not put).",
+        "5 BACKWARD: k1 = f(t, x); y = x + h * k1; then six times: k2 = f(t + h, y); w = x + h * k2; the GAP "
+            + "is in how many VARIABLES w and y are unlike (by value); y is w.",
+        "k1 = f(t, x); y is x, with x + g * k1 put into the SPEEDS; k2 = f(t + g, y); z is y, with x + h * "
+            + "k2 put into the PLACES; k3 = f(t + h, z); the SPEEDS of z become y + g * k3 (put)."};
+
     public static void main(String[] args) {
+        for (int m = 0; m < METHODS.length; m++) {
+            int method = m;
+            Edges.sentence(METHODS[m], () -> written(method));
+        }
         Edges.sentence("6 LEAP (n is even; the first n / 2 VARIABLES are PLACES, the others SPEEDS)",
             EdgesOfStepsTest::placesAndSpeeds);
         Edges.sentence("(Values of the other SIDES count nothing, but must be FINITE, too.)",
@@ -86,6 +106,193 @@ public final class EdgesOfStepsTest {
         MotionStepper x = byTime(4, new double[] {1.0}, new double[] {0, 72});
         x.tolerance(0, a, 0, k);
         return x;
+    }
+
+    // ---- the written METHODS
+
+    /** One step from t, x by h, reckoned here: k1 to k4 and e are rows 0 to 4, the new state row 5. */
+    private static final class Written {
+        final int n;
+        final int narrow;
+        final double t;
+        final double h;
+        final double g;
+        final double[] x;
+        final double[][] rows = new double[6][];
+        int gap;
+
+        Written(int narrow, int method, double t, double[] x, double h) {
+            n = x.length;
+            this.narrow = narrow;
+            this.t = t;
+            this.x = x;
+            this.h = h;
+            g = h / 2;
+            rows[0] = f(t, x);
+            go(method);
+        }
+
+        /** xi' = x(i + 1) * xi - t / (3 + i), the first one behind the last one. */
+        double[] f(double time, double[] at) {
+            double[] row = new double[n];
+            for (int i = 0; i < n; i++) {
+                row[i] = at[(i + 1) % n] * at[i] - time / (3.0 + i);
+            }
+            return row;
+        }
+
+        double put(int i, double a) {
+            return (narrow >> i & 1) == 1 ? (float) a : a;
+        }
+
+        double[] from(double[] start, double weight, double[] slope) {
+            double[] row = new double[n];
+            for (int i = 0; i < n; i++) {
+                row[i] = put(i, start[i] + weight * slope[i]);
+            }
+            return row;
+        }
+
+        private void go(int method) {
+            double[] k1 = rows[0];
+            if (method == 0) {
+                rows[5] = from(x, h, k1);
+            } else if (method == 5) {
+                backward();
+            } else if (method == 6) {
+                leap();
+            } else {
+                double[] k2 = f(t + g, from(x, g, k1));
+                rows[1] = k2;
+                if (method == 1) {
+                    rows[5] = from(x, h, k2);
+                } else if (method == 2) {
+                    third(k1, k2);
+                } else if (method == 3) {
+                    fourth(k1, k2);
+                } else {
+                    pair(k1, k2);
+                }
+            }
+        }
+
+        private void third(double[] k1, double[] k2) {
+            double[] slope = new double[n];
+            for (int i = 0; i < n; i++) slope[i] = 2 * k2[i] - k1[i];
+            double[] k3 = f(t + h, from(x, h, slope));
+            for (int i = 0; i < n; i++) slope[i] = (k1[i] + 4 * k2[i]) + k3[i];
+            rows[2] = k3;
+            rows[5] = from(x, h / 6, slope);
+        }
+
+        private void fourth(double[] k1, double[] k2) {
+            double[] k3 = f(t + g, from(x, g, k2));
+            double[] k4 = f(t + h, from(x, h, k3));
+            double[] slope = new double[n];
+            for (int i = 0; i < n; i++) slope[i] = ((k1[i] + 2 * k2[i]) + 2 * k3[i]) + k4[i];
+            rows[2] = k3;
+            rows[3] = k4;
+            rows[5] = from(x, h / 6, slope);
+        }
+
+        private void pair(double[] k1, double[] k2) {
+            double d = (3 * h) / 4;
+            double[] k3 = f(t + d, from(x, d, k2));
+            double[] slope = new double[n];
+            for (int i = 0; i < n; i++) slope[i] = (2 * k1[i] + 3 * k2[i]) + 4 * k3[i];
+            rows[5] = from(x, h / 9, slope);
+            double[] k4 = f(t + h, rows[5]);
+            double[] e = new double[n];
+            for (int i = 0; i < n; i++) {
+                e[i] = (h / 72) * (((6 * k2[i] + 8 * k3[i]) - 5 * k1[i]) - 9 * k4[i]);
+            }
+            rows[2] = k3;
+            rows[3] = k4;
+            rows[4] = e;
+        }
+
+        private void backward() {
+            double[] y = from(x, h, rows[0]);
+            for (int times = 0; times < 6; times++) {
+                rows[1] = f(t + h, y);
+                double[] w = from(x, h, rows[1]);
+                gap = 0;
+                for (int i = 0; i < n; i++) gap += w[i] != y[i] ? 1 : 0;
+                y = w;
+            }
+            rows[5] = y;
+        }
+
+        private void leap() {
+            double[] y = x.clone();
+            for (int i = n / 2; i < n; i++) y[i] = put(i, x[i] + g * rows[0][i]);
+            rows[1] = f(t + g, y);
+            double[] z = y.clone();
+            for (int i = 0; i < n / 2; i++) z[i] = put(i, x[i] + h * rows[1][i]);
+            rows[2] = f(t + h, z);
+            for (int i = n / 2; i < n; i++) z[i] = put(i, y[i] + g * rows[2][i]);
+            rows[5] = z;
+        }
+    }
+
+    /** The LAW of Written, and a RUN of it whose numbers have all their bits. */
+    private static MotionStepper writtenDesk(int n, int narrow) {
+        LawMaker law = new LawMaker(new MotionStepper(), n, narrow);
+        int time = law.time();
+        int[] states = new int[n];
+        for (int i = 0; i < n; i++) {
+            states[i] = law.state(i);
+        }
+        for (int i = 0; i < n; i++) {
+            int product = law.node(4, states[(i + 1) % n], states[i], 0);
+            law.side(i, law.node(3, product, law.node(5, time, law.constant(3 + i, 0), 0), 0));
+        }
+        law.run(1234567891, 30);
+        for (int i = 0; i < n; i++) {
+            law.desk.set(0, i, (i % 2 == 0 ? 1 : -1) * (987654321 + 123456789L * i), 30);
+        }
+        return law.desk;
+    }
+
+    private static double number(long bits) {
+        return Double.longBitsToDouble(bits);
+    }
+
+    private static void written(int method) {
+        int[] numbers = method == 6 ? new int[] {2, 4, 6} : new int[] {1, 2, 3, 6};
+        long[] lengths = {134217729, -44739243, 1 << 27, 333333333};
+        for (int n : numbers) {
+            int[] narrows = {0, (1 << n) - 1, 1};
+            for (int narrow : narrows) {
+                MotionStepper x = writtenDesk(n, narrow);
+                x.method(0, method);
+                x.tolerance(0, Long.MAX_VALUE, 0, 0);
+                for (long length : lengths) {
+                    x.length(0, length, 30);
+                    dueWritten(x, n, narrow, method);
+                }
+            }
+        }
+    }
+
+    private static void dueWritten(MotionStepper x, int n, int narrow, int method) {
+        double t = number(x.clock(0, 0)), h = number(x.clock(0, 1));
+        double[] states = new double[n];
+        for (int i = 0; i < n; i++) {
+            states[i] = number(x.state(0, i));
+        }
+        Written want = new Written(narrow, method, t, states, h);
+        Edges.due("step", x.step(0), 0);
+        Edges.dueNumber("time", x.clock(0, 0), t + h);
+        Edges.due("GAP", x.count(0, 4), want.gap);
+        for (int i = 0; i < n; i++) {
+            Edges.dueNumber("state " + i + " of " + n, x.state(0, i), want.rows[5][i]);
+            for (int j = 1; j <= 5; j++) {
+                double[] row = want.rows[j - 1];
+                Edges.due("k" + j + " of " + i, x.stage(0, j, i),
+                    row == null ? NONE : Double.doubleToLongBits(row[i]));
+            }
+        }
     }
 
     // ---- LEAP

@@ -8,6 +8,14 @@ public final class RefusalsTest {
     private static final int[] NO_K = {-1, 31};
 
     public static void main(String[] args) {
+        Edges.sentence("The constants: `NUMBER = -1`: A number is none, or none that may be.",
+            () -> Edges.due("NUMBER", NUMBER, -1));
+        Edges.sentence("`STATE = -2`: Something isn't as it must be for that.",
+            () -> Edges.due("STATE", STATE, -2));
+        Edges.sentence("`FULL = -3`: There are as many as may be.", () -> Edges.due("FULL", FULL, -3));
+        Edges.sentence("`WILD = -4`: A step is WILD.", () -> Edges.due("WILD", WILD, -4));
+        Edges.sentence("`SMALL = -5`: A step is REFUSED by its control.",
+            () -> Edges.due("SMALL", SMALL, -5));
         Edges.sentence("A call that is refused (answers below 0) changes nothing.", () -> {
             numbersOfLaws();
             numbersOfRuns();
