@@ -1,11 +1,13 @@
 import java.io.IOException;
 import java.nio.file.Files;
 import java.nio.file.Path;
+import java.util.ArrayList;
 import java.util.List;
 
 /**
- * What the tests of edges share. Each test bears the sentence of the document that it holds; the
- * sentence is looked up there, so that a test can't outlive what it stands for.
+ * What the tests of sentences share. Each test bears the sentence of the document that it holds; the
+ * sentence is looked up there, so that a test can't outlive what it stands for, and has one place
+ * there, so that it is known what no test stands for (WholeDocumentTest).
  */
 final class Edges {
     /** Makes a desk, always the same one. */
@@ -25,16 +27,23 @@ final class Edges {
     private static int sentences;
     private static int checks;
     private static int wrong;
+    /** Where sentences are gathered instead of tested; null at a test. */
+    private static List<String> gathered;
 
     private Edges() {
     }
 
     /** Runs the test of a sentence; one that checks nothing is wrong itself. */
     static void sentence(String words, Runnable test) {
+        if (gathered != null) {
+            gathered.add(words);
+            return;
+        }
         sentence = words;
         sentences++;
-        if (!inDocument(words)) {
-            fault("the document does not say that");
+        int places = places(words);
+        if (places != 1) {
+            fault("the document says that " + places + " times");
         }
         int before = checks;
         test.run();
@@ -43,7 +52,17 @@ final class Edges {
         }
     }
 
-    private static boolean inDocument(String words) {
+    /** The sentences that a test bears, without running it. */
+    static List<String> sentencesOf(Runnable main) {
+        gathered = new ArrayList<>();
+        main.run();
+        List<String> found = gathered;
+        gathered = null;
+        return found;
+    }
+
+    /** The document, its words with one space between them. */
+    static String document() {
         if (document == null) {
             try {
                 document = Files.readString(DOCUMENT).replaceAll("\\s+", " ");
@@ -51,7 +70,16 @@ final class Edges {
                 throw new IllegalStateException("no document at " + DOCUMENT, e);
             }
         }
-        return document.contains(words);
+        return document;
+    }
+
+    /** In how many places the document has these words. */
+    static int places(String words) {
+        int found = 0;
+        for (int at = document().indexOf(words); at >= 0; at = document().indexOf(words, at + 1)) {
+            found++;
+        }
+        return found;
     }
 
     private static void fault(String text) {
@@ -94,6 +122,9 @@ final class Edges {
 
     /** Tells what was checked, and ends the test. */
     static void end() {
+        if (gathered != null) {
+            return;
+        }
         System.out.println(sentences + " sentences, " + checks + " checks, " + wrong + " wrong");
         System.exit(wrong == 0 ? 0 : 1);
     }

@@ -12,15 +12,21 @@ public final class EdgesOfEventsTest {
 
     public static void main(String[] args) {
         Edges.sentence("BETWEEN: of the latest step that was TAKEN", EdgesOfEventsTest::latestTaken);
+        Edges.sentence("from t0, x0 by h to x1, with f0 = f(t0, x0) and f1 = f(t0 + h, x1)",
+            EdgesOfEventsTest::endsOfTheStep);
         Edges.sentence("both as they were when it was TAKEN", EdgesOfEventsTest::asTaken);
         Edges.sentence("at s (0.0 to 1.0) it is x0 if s is 0, x1 if s is 1",
             EdgesOfEventsTest::endsOfBetween);
         Edges.sentence("else, u being 1 - s, put: (u * u) * ((1 + 2 * s) * x0 + (s * h) * f0) + (s * s) * "
             + "((1 + 2 * u) * x1 - (u * h) * f1)", EdgesOfEventsTest::cubic);
         Edges.sentence("its time is t0 + s * h.", EdgesOfEventsTest::timeOfBetween);
+        Edges.sentence("BETWEEN, of VARIABLE i of a RUN at s = n / 2^k.", EdgesOfEventsTest::betweenOfARun);
         Edges.sentence("NONE: there is no such RUN or VARIABLE, no step yet, k isn't 0 to 30, or s isn't "
             + "0.0 to 1.0.", EdgesOfEventsTest::noBetween);
-        Edges.sentence("EVENTS of a RUN are numbered 0 to 3", EdgesOfEventsTest::fourEvents);
+        Edges.sentence("EVENTS of a RUN are numbered 0 to 3: a NODE of its LAW, a direction, an action.",
+            EdgesOfEventsTest::fourEvents);
+        Edges.sentence("Behind a step that is TAKEN each one is looked at: a and b are the values of the "
+            + "NODE at t0, x0 and at t0 + h, x1.", EdgesOfEventsTest::endsOfEvents);
         Edges.sentence("It COMES if a is below 0 and b not (b is a number), the direction being 1 or 0",
             EdgesOfEventsTest::rises);
         Edges.sentence("or if a is above 0 and b is 0 or below, the direction being -1 or 0.",
@@ -41,7 +47,8 @@ public final class EdgesOfEventsTest {
         Edges.sentence("Those behind it are not FIRED.", EdgesOfEventsTest::behindIt);
         Edges.sentence("(The latest step, for BETWEEN, stays the whole one.)",
             EdgesOfEventsTest::wholeStep);
-        Edges.sentence("(from 0 on, over the RUN's whole life; the first 64 are kept)",
+        Edges.sentence("Of the j-th EVENT that FIRED (from 0 on, over the RUN's whole life; the first 64 are "
+            + "kept)",
             EdgesOfEventsTest::sixtyFour);
         Edges.sentence("what = 0 its number (as a whole number), 1 the time, as a NUMBER: t0 + high * h.",
             EdgesOfEventsTest::numberAndTime);
@@ -120,6 +127,58 @@ public final class EdgesOfEventsTest {
         y.length(0, 4, 0);
         Edges.due("refused", y.step(0), MotionStepper.SMALL);
         Edges.due("as ahead of it", y.between(0, 0, 1, 1), middle);
+    }
+
+    /** The middle is (x0 + x1) / 2 + h * (f0 - f1) / 8, here in numbers that do not round. */
+    private static void endsOfTheStep() {
+        // x0' = t * t, x1' = x0: f0 and f1 by time and by state, of each METHOD.
+        for (int m = 0; m <= 6; m++) {
+            LawMaker law = new LawMaker(new MotionStepper(), 2, 0);
+            int time = law.time();
+            law.side(0, law.node(4, time, time, 0)).side(1, law.state(0));
+            law.run(2, 0);
+            MotionStepper x = law.desk;
+            x.method(0, m);
+            x.tolerance(0, Long.MAX_VALUE, 0, 0);
+            x.set(0, 0, 5, 0);
+            x.set(0, 1, -3, 0);
+            x.length(0, 4, 0);
+            Edges.due("step", x.step(0), 0);
+            double[] end = {number(x.state(0, 0)), number(x.state(0, 1))};
+            double[] f0 = {4, 5};
+            double[] f1 = {36, end[0]};
+            double[] start = {5, -3};
+            // What comes later is no part of the step.
+            x.set(0, 0, 99, 0);
+            x.length(0, -7, 0);
+            x.method(0, 0);
+            for (int i = 0; i < 2; i++) {
+                double want = 0.25 * (2 * start[i] + 2 * f0[i]) + 0.25 * (2 * end[i] - 2 * f1[i]);
+                Edges.dueNumber("METHOD " + m + ", variable " + i, x.between(0, i, 1, 1), want);
+                Edges.dueNumber("x0", x.between(0, i, 0, 0), start[i]);
+                Edges.dueNumber("x1", x.between(0, i, 1, 0), end[i]);
+            }
+        }
+        // t0 + h is the end, though a CUT step brings the time to T: f is 64 from t0 + h on, else 0.
+        double t0 = -7969177 * 0x1p-30 + 214748365 * 0x1p-30 * (5 * 0x1p-30);
+        double target = 1258291 * 0x1p-30;
+        double end = t0 + (target - t0);
+        Edges.dueTrue("t0 + h is behind T", end > target);
+        LawMaker law = new LawMaker(new MotionStepper(), 2, 0);
+        law.side(0, law.constant(1, 0));
+        law.side(1, law.table(law.time(), new double[] {end}, new double[] {0, 64}));
+        int above = law.node(3, law.state(0), law.constant(1, 30), 0);
+        law.run(-7969177, 30);
+        MotionStepper x = law.desk;
+        x.length(0, 5, 30);
+        x.event(0, above, 1, 3, 0);
+        x.step(0);
+        x.length(0, 1, 0);
+        Edges.dueNumber("t0", x.clock(0, 0), t0);
+        Edges.due("to T", x.to(0, 1258291, 30, 1), 1);
+        Edges.dueNumber("T", x.clock(0, 0), target);
+        double h = target - t0;
+        Edges.dueNumber("f1 is 64", x.between(0, 1, 1, 1), 0.25 * 0.0 + 0.25 * (0.0 - (0.5 * h) * 64));
     }
 
     private static void asTaken() {
@@ -227,6 +286,34 @@ public final class EdgesOfEventsTest {
         Edges.dueNumber("time", back.desk.clock(0, 0), -0.25 - 0x1p-30);
     }
 
+    private static void betweenOfARun() {
+        // Each of six VARIABLES goes its own straight way, in two RUNS of one LAW.
+        LawMaker law = new LawMaker(new MotionStepper(), 6, 0);
+        for (int i = 0; i < 6; i++) {
+            law.side(i, law.constant(1 << i, 0));
+        }
+        law.run(0, 0);
+        law.run(0, 0);
+        MotionStepper x = law.desk;
+        x.set(1, 3, 1000, 0);
+        x.length(0, 1, 0);
+        x.length(1, -2, 0);
+        x.step(0);
+        x.step(1);
+        long[] parts = {0, 1, 2, 3, 4};
+        for (long n : parts) {
+            for (int k = 2; k <= 30; k += 14) {
+                for (int i = 0; i < 6; i++) {
+                    double way = (1 << i) * n / 4.0;
+                    String what = "variable " + i + " at " + n + " / 4";
+                    Edges.dueNumber(what, x.between(0, i, n << k - 2, k), way);
+                    double start = i == 3 ? 1000 : 0;
+                    Edges.dueNumber(what, x.between(1, i, n << k - 2, k), start - 2 * way);
+                }
+            }
+        }
+    }
+
     private static void noBetween() {
         MotionStepper x = Desks.swing(0);
         Edges.due("no step yet", x.between(0, 0, 0, 0), NONE);
@@ -270,6 +357,78 @@ public final class EdgesOfEventsTest {
         x.step(0);
         Edges.due("all four fired", x.count(0, 7), 4);
         Edges.due("the last one", x.fired(0, 3, 0), 3);
+        // Each has a NODE, a direction and an action of its own.
+        LawMaker law = new LawMaker(new MotionStepper(), 1, 0);
+        int time = law.time();
+        int rise = law.node(3, time, law.number(0.25), 0);
+        int fall = law.node(3, law.number(0.5), time, 0);
+        law.side(0, law.constant(1, 0));
+        law.run(0, 0);
+        MotionStepper y = law.desk;
+        y.length(0, 1, 0);
+        y.event(0, rise, -1, 1, 0);
+        y.event(0, fall, -1, 2, 0);
+        y.event(0, rise, 1, 0, 0);
+        y.event(0, fall, 1, 1, 0);
+        y.step(0);
+        dueFired("a rise and a fall", y, 2, 1);
+        Edges.due("not ended", y.count(0, 5), 0);
+        Edges.dueNumber("negated", y.state(0, 0), -0.5);
+        y.length(0, -1, 0);
+        y.step(0);
+        dueFired("back in time: the fall of the first one", y, 2, 1, 0);
+        Edges.due("ended", y.count(0, 5), 1);
+    }
+
+    /** The NODE's values on the way, between steps and at other ends do not count. */
+    private static void endsOfEvents() {
+        // Below 0 at both ends, above it in the middle; and the other way round.
+        double[] limits = {0.25, 0.75};
+        for (int direction = -1; direction <= 1; direction++) {
+            Timed hill = new Timed().event(limits, new double[] {-1, 1, -1}, direction, 0);
+            hill.desk.step(0);
+            Edges.due("a hill by " + direction, hill.desk.count(0, 7), 0);
+            Timed valley = new Timed().event(limits, new double[] {1, -1, 1}, direction, 0);
+            valley.desk.step(0);
+            Edges.due("a valley by " + direction, valley.desk.count(0, 7), 0);
+        }
+        // By state: a is looked at x0, b at x1, which set() and actions do not join.
+        MotionStepper x = Desks.climb();
+        x.event(0, 3, 1, 0, 0);
+        x.set(0, 0, -5, 0);
+        x.step(0);
+        x.set(0, 0, 7, 0);
+        Edges.due("set() is no step", x.count(0, 7), 0);
+        x.step(0);
+        Edges.due("above at both ends", x.count(0, 7), 0);
+        x.set(0, 0, 0, 0);
+        x.step(0);
+        Edges.due("from below to 0", x.count(0, 7), 1);
+        x.step(0);
+        Edges.due("from 0 on", x.count(0, 7), 1);
+        // At t0 + h, x1 at once: x - t is below 0 at the one, 0 at both.
+        MotionStepper y = Desks.climb();
+        int q = y.node(0, 3, 1, 0, 0);
+        y.set(0, 0, -1, 0);
+        y.event(0, q, 0, 0, 0);
+        y.step(0);
+        Edges.due("x - t stays at -1", y.count(0, 7), 0);
+        // A step that isn't TAKEN is not looked at.
+        Timed wild = new Timed();
+        int rise = wild.law.node(3, wild.time, wild.law.number(0.5), 0);
+        LawMaker other = new LawMaker(wild.desk, 1, 0);
+        int time = other.time();
+        int above = other.node(3, time, other.number(0.5), 0);
+        other.side(0, other.number(INFINITY));
+        int r = other.run(0, 0);
+        wild.desk.length(r, 1, 0);
+        wild.desk.event(r, above, 1, 1, 0);
+        wild.eventOf(rise, 1, 0, 0);
+        Edges.due("wild", wild.desk.step(r), WILD);
+        Edges.due("none FIRED", wild.desk.count(r, 7), 0);
+        Edges.due("not ended", wild.desk.count(r, 5), 0);
+        wild.desk.step(0);
+        Edges.due("one that is TAKEN", wild.desk.count(0, 7), 1);
     }
 
     private static final double[] SIGNS =

@@ -14,16 +14,16 @@ public final class EdgesOfKeptTest {
         Edges.sentence("NUMBER: there is no such RUN, p isn't 0 to 3.", EdgesOfKeptTest::keep);
         Edges.sentence("A RUN becomes what is kept in place p (it stays kept): 1.",
             EdgesOfKeptTest::staysKept);
-        Edges.sentence("NUMBER: there is no such RUN, p isn't 0 to 3; STATE: nothing is kept there.",
-            EdgesOfKeptTest::back);
+        Edges.sentence("(it stays kept): 1. NUMBER: there is no such RUN, p isn't 0 to 3; STATE: nothing is "
+            + "kept there.", EdgesOfKeptTest::back);
         Edges.sentence("In how many of time, LENGTH and states a RUN and what is kept in place p have "
             + "unlike bits", EdgesOfKeptTest::unlikeBits);
         Edges.sentence("LAWS of other numbers of VARIABLES: those that only one has are unlike.",
             EdgesOfKeptTest::otherNumbers);
         Edges.sentence("those that only one has are unlike. NUMBER: there is no such RUN, p isn't 0 to 3; "
             + "STATE: nothing is kept there.", EdgesOfKeptTest::unlike);
-        Edges.sentence("An object is used for at most 512 calls after it has been made",
-            EdgesOfKeptTest::calls);
+        Edges.sentence("An object is used for at most 512 calls after it has been made; what later calls "
+            + "answer is free.", EdgesOfKeptTest::calls);
         Edges.end();
     }
 

@@ -10,11 +10,13 @@ public final class EdgesOfLawsTest {
     public static void main(String[] args) {
         Edges.sentence("No laws, no signals, no runs, nothing kept.", EdgesOfLawsTest::newObject);
         Edges.sentence("LAWS are numbered 0 to 7, as they come.", EdgesOfLawsTest::eightLaws);
+        Edges.sentence("A LAW comes: its number.", EdgesOfLawsTest::lawComes);
         Edges.sentence("VARIABLE i is NARROW if bit i of narrow is 1.", EdgesOfLawsTest::narrowBits);
         Edges.sentence("NUMBER: n isn't 1 to 6", EdgesOfLawsTest::numberOfVariables);
-        Edges.sentence("or narrow has other bits than these", EdgesOfLawsTest::otherBits);
+        Edges.sentence("or narrow has other bits than these; FULL.", EdgesOfLawsTest::otherBits);
         Edges.sentence("A CONSTANT n / 2^k comes to a LAW: the NODE's number. NUMBER: there is no such "
             + "LAW, k isn't 0 to 30; FULL.", EdgesOfLawsTest::constant);
+        Edges.sentence("A NODE comes to a LAW: its number.", EdgesOfLawsTest::nodeComes);
         Edges.sentence("NUMBER: there is no such LAW, kind isn't 0 to 12", EdgesOfLawsTest::kinds);
         Edges.sentence("or one of those that its kind needs isn't there (a VARIABLE, a NODE, a SIGNAL "
             + "that came already, a b of 0 to 9); FULL.", EdgesOfLawsTest::whatKindsNeed);
@@ -89,6 +91,35 @@ public final class EdgesOfLawsTest {
         }
     }
 
+    private static void lawComes() {
+        MotionStepper x = new MotionStepper();
+        Edges.due("the first one", x.law(2, 0), 0);
+        Edges.due("refused", x.law(0, 0), NUMBER);
+        Edges.due("a refused one has no number", x.law(3, 5), 1);
+        Edges.due("laws", x.many(0), 2);
+        Edges.due("no nodes yet", x.many(3), 0);
+        Edges.due("no nodes yet", x.many(4), 0);
+        Edges.due("its variables", x.node(1, 0, 2, 0, 0), 0);
+        Edges.due("those of the first one", x.node(0, 0, 2, 0, 0), NUMBER);
+        Edges.due("no sides yet", x.run(1, 0, 0), STATE);
+    }
+
+    private static void nodeComes() {
+        MotionStepper x = new MotionStepper();
+        x.signal(1);
+        x.law(1, 0);
+        x.law(1, 0);
+        Edges.due("the first one", x.node(0, 1, 0, 0, 0), 0);
+        Edges.due("refused", x.node(0, 13, 0, 0, 0), NUMBER);
+        Edges.due("a constant has the next number", x.constant(0, 5, 0), 1);
+        Edges.due("the first one of another law", x.node(1, 0, 0, 0, 0), 0);
+        for (int kind = 0; kind <= 12; kind++) {
+            Edges.due("kind " + kind, x.node(0, kind, 0, 0, 0), 2 + kind);
+            Edges.due("nodes", x.many(3), 3 + kind);
+            Edges.due("those of the other law", x.many(4), 1);
+        }
+    }
+
     private static void narrowBits() {
         for (int bit = 0; bit < 6; bit++) {
             LawMaker law = new LawMaker(new MotionStepper(), 6, 1 << bit);
@@ -131,6 +162,13 @@ public final class EdgesOfLawsTest {
             Edges.due("the first of " + n, x.law(n, 1), 1);
             Edges.due("the last of " + n, x.law(n, 1 << n - 1), 2);
             Edges.due("all of " + n, x.law(n, (1 << n) - 1), 3);
+            for (int l = 4; l < 8; l++) {
+                Edges.due("law " + l, x.law(n, 0), l);
+            }
+            Edges.due("a ninth one", x.law(n, 0), FULL);
+            Edges.due("a ninth one with all bits of " + n, x.law(n, (1 << n) - 1), FULL);
+            Edges.due("a ninth one with other bits", x.law(n, 1 << n), NUMBER);
+            Edges.due("laws", x.many(0), 8);
         }
     }
 

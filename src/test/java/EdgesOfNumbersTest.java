@@ -11,21 +11,29 @@ public final class EdgesOfNumbersTest {
     private static final double NAN = Double.NaN;
 
     public static void main(String[] args) {
-        Edges.sentence("the nearest double of the long n, divided by 2 to the power of k (0 to 30)",
-            EdgesOfNumbersTest::nearestDouble);
+        Edges.sentence("n and k tell the NUMBER n / 2^k: the nearest double of the long n, divided by 2 to "
+            + "the power of k (0 to 30).", EdgesOfNumbersTest::nearestDouble);
         Edges.sentence("What is told back as a NUMBER is its bits, 0x7FF8000000000000 for one that is "
             + "not a number.", EdgesOfNumbersTest::toldBits);
         Edges.sentence("A NUMBER is FINITE if it is a number and no infinity.",
             EdgesOfNumbersTest::finite);
-        Edges.sentence("each sum, difference, product and quotient is the nearest one, as the language "
-            + "has it", EdgesOfNumbersTest::nearestResults);
+        Edges.sentence("NUMBERS are doubles; each sum, difference, product and quotient is the nearest one, "
+            + "as the language has it.", EdgesOfNumbersTest::nearestResults);
+        Edges.sentence("A LAW has n VARIABLES 0 to n - 1 (n is 1 to 6), each NARROW or not",
+            EdgesOfNumbersTest::variables);
         Edges.sentence("NODES 0 to 47, as they come", EdgesOfNumbersTest::nodes);
-        Edges.sentence("a SIDE, one of its NODES (none at first); it is READY if all have one",
-            EdgesOfNumbersTest::ready);
+        Edges.sentence("and for each VARIABLE a SIDE, one of its NODES (none at first); it is READY if all "
+            + "have one.", EdgesOfNumbersTest::ready);
         Edges.sentence("SIGNALS are numbered 0 to 7; each has at most 16 POINTS, 0 to 15, of a time and "
-            + "a value, times rising", EdgesOfNumbersTest::points);
-        Edges.sentence("STATE i: xi. TIME: t. CONSTANT: its NUMBER.", EdgesOfNumbersTest::leaves);
-        Edges.sentence("QUOTIENT a / b", EdgesOfNumbersTest::quotient);
+            + "a value, times rising, and is a STEP or a LINE.", EdgesOfNumbersTest::points);
+        Edges.sentence("The value of a NODE, for states x0, x1, .. and a time t, by its kind: STATE i: xi. "
+            + "TIME: t. CONSTANT: its NUMBER.", EdgesOfNumbersTest::leaves);
+        Edges.sentence("SUM a + b, DIFFERENCE a - b, PRODUCT a * b, QUOTIENT a / b", () -> {
+            operations();
+            quotient();
+        });
+        Edges.sentence("(a, b, c being the values of NODES that came earlier).",
+            EdgesOfNumbersTest::earlierNodes);
         Edges.sentence("NEGATED: -a.", EdgesOfNumbersTest::negated);
         Edges.sentence("SIZE: a without its sign.", EdgesOfNumbersTest::size);
         Edges.sentence("LEAST, GREATEST: of a and b (-0.0 is less than 0.0); not a number, if one of "
@@ -38,8 +46,8 @@ public final class EdgesOfNumbersTest {
         Edges.sentence("not a number if a is none", EdgesOfNumbersTest::signalAtNone);
         Edges.sentence("else at or ahead of the first time its value, at or behind the last time its "
             + "value", EdgesOfNumbersTest::signalOutside);
-        Edges.sentence("p being the last POINT whose time is a or less and q the next one: STEP: p's "
-            + "value", EdgesOfNumbersTest::stepBetween);
+        Edges.sentence("between, p being the last POINT whose time is a or less and q the next one: STEP: "
+            + "p's value", EdgesOfNumbersTest::stepBetween);
         Edges.sentence("LINE: vp + (vq - vp) * ((a - tp) / (tq - tp)), with p's value where a is p's "
             + "time.", EdgesOfNumbersTest::lineBetween);
         Edges.sentence("TO PUT a NUMBER into a VARIABLE: if it is NARROW, the nearest float of it is "
@@ -244,6 +252,13 @@ public final class EdgesOfNumbersTest {
         Edges.dueNumber("point 15", x.value(r, q), -15.0);
         x.set(r, 0, 16, 0);
         Edges.dueNumber("behind it", x.value(r, q), -15.0);
+        // Odd ones are LINES here, even ones STEPS.
+        for (int s = 0; s < 6; s++) {
+            x.point(s, 8, 0, 0);
+            x.point(s, 24, 64, 0);
+            Edges.dueNumber("halfway on signal " + s,
+                x.value(r, law.node(12, 0, s, 0)), s % 2 == 0 ? 0.0 : 32.0);
+        }
     }
 
     private static void leaves() {
@@ -262,6 +277,81 @@ public final class EdgesOfNumbersTest {
         }
         Edges.dueNumber("time", x.value(r, time), -2.5);
         Edges.due("state 6 of 6", x.node(0, 0, 6, 0, 0), NUMBER);
+        int constant = law.constant(-5, 3);
+        Edges.dueNumber("constant", x.value(r, constant), -0.625);
+        // Another state and another time of the same NODES.
+        x.step(r);
+        Edges.dueNumber("state 5", x.value(r, 5), 15.0 + 0.125 * 15.0);
+        Edges.dueNumber("time", x.value(r, time), -2.375);
+        Edges.dueNumber("constant", x.value(r, constant), -0.625);
+    }
+
+    /** Each VARIABLE of each n is NARROW or not as its bit says, whatever the others are. */
+    private static void variables() {
+        double wide = (1L << 24) + 1;
+        for (int n = 1; n <= 6; n++) {
+            for (int narrow = 0; narrow < 1 << n; narrow++) {
+                LawMaker law = new LawMaker(new MotionStepper(), n, narrow);
+                law.constant(0, 0);
+                for (int i = 0; i < n; i++) {
+                    law.side(i, 0);
+                }
+                Edges.due("side of variable " + n, law.desk.side(0, n, 0), NUMBER);
+                int r = law.run(0, 0);
+                for (int i = 0; i < n; i++) {
+                    Edges.due("variable " + i, law.desk.set(r, i, (long) wide, 0), 1);
+                    boolean isNarrow = (narrow >> i & 1) == 1;
+                    Edges.dueNumber("bits " + narrow + " of " + n + ", variable " + i,
+                        law.desk.state(r, i), isNarrow ? (float) wide : wide);
+                }
+                Edges.due("no variable " + n, law.desk.state(r, n), NONE);
+                Edges.due("no variable -1", law.desk.state(r, -1), NONE);
+            }
+        }
+    }
+
+    private static void operations() {
+        dueKind(2, 7.5, -2.25, 5.25);
+        dueKind(2, -2.25, 7.5, 5.25);
+        dueKind(3, 7.5, -2.25, 9.75);
+        dueKind(3, -2.25, 7.5, -9.75);
+        dueKind(4, 7.5, -2.25, -16.875);
+        dueKind(4, -2.25, -2.25, 5.0625);
+        dueKind(5, 7.5, -2.5, -3.0);
+        dueKind(5, -2.5, 10.0, -0.25);
+    }
+
+    /** A NODE of NODES goes by their values at the same state and time; none is of itself or later. */
+    private static void earlierNodes() {
+        LawMaker law = new LawMaker(new MotionStepper(), 1, 0);
+        int state = law.state(0);
+        int time = law.time();
+        int sum = law.node(2, state, time, 0);
+        int square = law.node(4, sum, sum, 0);
+        int rest = law.node(3, square, state, 0);
+        int chosen = law.node(10, rest, time, sum);
+        for (int kind = 2; kind <= 12; kind++) {
+            Edges.due("kind " + kind + " of itself", law.desk.node(0, kind, chosen + 1, 0, 0), NUMBER);
+            Edges.due("kind " + kind + " of a later one", law.desk.node(0, kind, chosen + 2, 0, 0), NUMBER);
+        }
+        int r = law.side(0, chosen).run(3, 0);
+        long[] states = {5, -2, 0, -4};
+        for (long x : states) {
+            law.desk.set(r, 0, x, 0);
+            double there = (x + 3) * (x + 3) - x;
+            Edges.dueNumber("a sum at " + x, law.desk.value(r, sum), x + 3);
+            Edges.dueNumber("a product of sums at " + x, law.desk.value(r, square), (x + 3) * (x + 3));
+            Edges.dueNumber("a difference at " + x, law.desk.value(r, rest), there);
+            Edges.dueNumber("a choice at " + x, law.desk.value(r, chosen), there < 0 ? 3 : x + 3);
+        }
+        // The highest NODE of all, of the one ahead of it and the first one.
+        while (law.desk.many(3) < 47) {
+            law.node(6, law.desk.many(3) - 1, 0, 0);
+        }
+        int last = law.node(2, 46, 0, 0);
+        Edges.due("the last one", last, 47);
+        double ahead = Double.longBitsToDouble(law.desk.value(r, 46));
+        Edges.dueNumber("it goes by 46 and 0", law.desk.value(r, last), ahead - 4);
     }
 
     private static void negated() {

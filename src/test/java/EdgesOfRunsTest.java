@@ -14,6 +14,9 @@ public final class EdgesOfRunsTest {
 
     public static void main(String[] args) {
         Edges.sentence("RUNS are numbered 0 to 3.", EdgesOfRunsTest::fourRuns);
+        Edges.sentence("A RUN has a LAW, a time, states, a METHOD, a LENGTH (of steps, not 0), two "
+            + "TOLERANCES, EVENTS, and counts.", EdgesOfRunsTest::whatARunHas);
+        Edges.sentence("A RUN of a LAW comes, at time n / 2^k: its number", EdgesOfRunsTest::runComes);
         Edges.sentence("states 0.0, METHOD 0, LENGTH 0.125, TOLERANCES 2^-20 and 0.0, no EVENTS, no step "
             + "yet, counts 0.", EdgesOfRunsTest::newRun);
         Edges.sentence("NUMBER: there is no such LAW, k isn't 0 to 30; STATE: it isn't READY; FULL.",
@@ -24,27 +27,35 @@ public final class EdgesOfRunsTest {
             + "is 6, and n is odd.", EdgesOfRunsTest::method);
         Edges.sentence("The LENGTH of a RUN is n / 2^k: 1. NUMBER: there is no such RUN, k isn't 0 to "
             + "30, or the size isn't 2^-30 to 1024.", EdgesOfRunsTest::length);
+        Edges.sentence("The TOLERANCES of a RUN are a / 2^k and b / 2^k: 1.", EdgesOfRunsTest::tolerances);
         Edges.sentence("NUMBER: there is no such RUN, k isn't 0 to 30, a is below 1, or b below 0.",
             EdgesOfRunsTest::tolerance);
+        Edges.sentence("An EVENT comes to a RUN: its number.", EdgesOfRunsTest::eventComes);
         Edges.sentence("NUMBER: there is no such RUN, its LAW has no NODE q, direction isn't -1 to 1, "
             + "action not 0 to 3 (w counts for action 2 alone); FULL: it has 4.",
             EdgesOfRunsTest::event);
         Edges.sentence("The state of VARIABLE i of a RUN; NONE: there is none such.",
             EdgesOfRunsTest::state);
+        Edges.sentence("Of a RUN: what = 0 its time, 1 its LENGTH", EdgesOfRunsTest::timeAndLength);
         Edges.sentence("2 the ERROR of its latest step that was TAKEN (0.0 if that was no PAIR, or there "
             + "was none)", EdgesOfRunsTest::errorOfLatest);
         Edges.sentence("3 the length h of that step (0.0 without one).",
             EdgesOfRunsTest::lengthOfLatest);
         Edges.sentence("NONE: there is no such RUN, another what.", EdgesOfRunsTest::clock);
+        Edges.sentence("Of a RUN: what = 0 its LAW, 1 its METHOD, 2 steps TAKEN, 3 steps REJECTED",
+            EdgesOfRunsTest::firstCounts);
         Edges.sentence("4 the GAP of the latest step TAKEN (0 if that was not BACKWARD)",
             EdgesOfRunsTest::gapOfLatest);
         Edges.sentence("5 1 if it is ENDED, else 0", EdgesOfRunsTest::endedOrNot);
+        Edges.sentence("6 EVENTS, 7 how many FIRED.", EdgesOfRunsTest::countsOfEvents);
         Edges.sentence("(What a refused call did isn't counted.)", EdgesOfRunsTest::refusedCounts);
         Edges.sentence("NUMBER: there is no such RUN, another what.", EdgesOfRunsTest::count);
+        Edges.sentence("Of the latest step TAKEN of a RUN: kj (j is 1 to 4) of VARIABLE i; j = 5: e.",
+            EdgesOfRunsTest::stagesOfLatest);
         Edges.sentence("NONE: there is no such RUN, VARIABLE, no such j by that step's METHOD (of "
             + "BACKWARD k2 is that of the sixth time), or no step yet.", EdgesOfRunsTest::stage);
-        Edges.sentence("at its state and time (not a number is told as NONE). NONE: there is no such RUN "
-            + "or NODE.", EdgesOfRunsTest::value);
+        Edges.sentence("The value of NODE q of a RUN's LAW, at its state and time (not a number is told as "
+            + "NONE). NONE: there is no such RUN or NODE.", EdgesOfRunsTest::value);
         Edges.end();
     }
 
@@ -75,6 +86,69 @@ public final class EdgesOfRunsTest {
         for (int r = 0; r < 4; r++) {
             Edges.due("steps of run " + r, x.count(r, 2), r == 3 ? 1 : 0);
         }
+    }
+
+    /** RUN 1 of the same LAW changes in all that it has; RUN 0 has its own, and goes on as it would. */
+    private static void whatARunHas() {
+        Edges.Maker two = () -> {
+            MotionStepper x = Desks.swing(0);
+            x.run(0, 1, 0);
+            x.method(0, 4);
+            x.tolerance(0, 1, 1, 9);
+            x.event(0, 1, 0, 2, 1);
+            x.step(0);
+            return x;
+        };
+        MotionStepper x = two.make();
+        MotionStepper y = two.make();
+        y.set(1, 0, 9, 0);
+        y.set(1, 1, -9, 0);
+        y.method(1, 5);
+        y.length(1, -7, 3);
+        y.tolerance(1, 5, 0, 0);
+        y.event(1, 0, 1, 1, 0);
+        y.event(1, 0, -1, 3, 0);
+        y.step(1);
+        for (int round = 0; round < 9; round++) {
+            Edges.due("step", y.step(0), x.step(0));
+            for (int what = 0; what < 8; what++) {
+                Edges.due("count " + what, y.count(0, what), x.count(0, what));
+            }
+            for (int what = 0; what < 4; what++) {
+                Edges.due("clock " + what, y.clock(0, what), x.clock(0, what));
+            }
+            Edges.due("state 0", y.state(0, 0), x.state(0, 0));
+            Edges.due("state 1", y.state(0, 1), x.state(0, 1));
+        }
+        Edges.dueNumber("its own time", y.clock(1, 0), 0.125);
+        Edges.dueNumber("its own LENGTH", y.clock(1, 1), -0.875);
+        int[] counts = {0, 5, 1, 0, 2, 0, 2};
+        for (int what = 0; what < counts.length; what++) {
+            Edges.due("its own count " + what, y.count(1, what), counts[what]);
+        }
+        // The LENGTH is never 0.
+        Edges.due("a LENGTH of 0", y.length(1, 0, 0), NUMBER);
+        Edges.due("a LENGTH of 0 / 2^30", y.length(1, 0, 30), NUMBER);
+        Edges.dueNumber("it is as it was", y.clock(1, 1), -0.875);
+    }
+
+    private static void runComes() {
+        MotionStepper x = Desks.climb();
+        LawMaker law = new LawMaker(x, 2, 0);
+        int q = law.constant(5, 0);
+        law.side(0, q).side(1, q);
+        long[] times = {-7, 1L << 40, 3};
+        int[] powers = {0, 30, 2};
+        for (int i = 0; i < times.length; i++) {
+            int l = i == 1 ? 0 : law.law;
+            Edges.due("refused", x.run(l, 0, -1), NUMBER);
+            Edges.due("the next number", x.run(l, times[i], powers[i]), 1 + i);
+            Edges.due("its LAW", x.count(1 + i, 0), l);
+            Edges.dueNumber("its time", x.clock(1 + i, 0), times[i] / Math.pow(2, powers[i]));
+            Edges.due("runs", x.many(2), 2 + i);
+        }
+        Edges.due("its variables", x.set(1, 1, 1, 0), 1);
+        Edges.due("those of the other LAW", x.set(2, 1, 1, 0), NUMBER);
     }
 
     private static void newRun() {
@@ -241,11 +315,22 @@ public final class EdgesOfRunsTest {
             Edges.due("b of " + b, x.tolerance(0, 1, b, 0), NUMBER);
             Edges.due("b of " + b, x.tolerance(0, 1, b, 30), NUMBER);
         }
+        // All these have changed nothing: 2^-20 and 0.0.
+        x.method(0, 4);
+        x.length(0, 1, 12);
+        x.step(0);
+        double e = Math.abs(Double.longBitsToDouble(x.stage(0, 5, 0)));
+        Edges.dueNumber("they are as they were", x.clock(0, 2), e / 0x1p-20);
+    }
+
+    private static void tolerances() {
         dueTolerances(1, 0, 30);
         dueTolerances(1, 0, 0);
         dueTolerances(1, 1, 30);
         dueTolerances(5, 3, 2);
+        dueTolerances(3, 5, 2);
         dueTolerances(Long.MAX_VALUE, Long.MAX_VALUE, 0);
+        dueTolerances(Long.MAX_VALUE, Long.MAX_VALUE, 30);
         Edges.due("an ended one has tolerances, too", ended().tolerance(0, 2, 0, 0), 1);
     }
 
@@ -260,6 +345,28 @@ public final class EdgesOfRunsTest {
         Edges.dueTrue("it has an e", e != 0.0);
         double unit = Math.pow(2, k);
         Edges.dueNumber("ERROR", x.clock(0, 2), e / (a / unit + b / unit * 1.0));
+    }
+
+    private static void eventComes() {
+        MotionStepper x = Desks.climb();
+        x.run(0, 0, 0);
+        Edges.due("the first one", x.event(0, 3, 1, 0, 0), 0);
+        Edges.due("refused", x.event(0, 3, 2, 0, 0), NUMBER);
+        Edges.due("a refused one has no number", x.event(0, 3, 1, 0, 0), 1);
+        Edges.due("the first one of another run", x.event(1, 3, 1, 0, 0), 0);
+        x.step(0);
+        Edges.due("the third one, behind a step", x.event(0, 3, -1, 0, 0), 2);
+        Edges.due("fired", x.count(0, 7), 2);
+        x.length(0, -1, 0);
+        x.step(0);
+        Edges.due("from 0 to below: none", x.count(0, 7), 2);
+        x.length(0, 3, 0);
+        x.step(0);
+        Edges.due("the rise, for both", x.count(0, 7), 4);
+        x.length(0, -3, 0);
+        x.step(0);
+        Edges.due("the fall, for the third one", x.count(0, 7), 5);
+        Edges.due("its number", x.fired(0, 4, 0), 2);
     }
 
     private static void event() {
@@ -364,6 +471,28 @@ public final class EdgesOfRunsTest {
         Edges.dueNumber("that of an ended one", y.clock(0, 3), 1.0);
     }
 
+    private static void timeAndLength() {
+        MotionStepper x = Desks.decay();
+        x.run(0, 7, 1);
+        Edges.dueNumber("time of 0", x.clock(0, 0), 0.0);
+        Edges.dueNumber("time of 1", x.clock(1, 0), 3.5);
+        x.length(1, -3, 4);
+        Edges.dueNumber("LENGTH of 0", x.clock(0, 1), 0.125);
+        Edges.dueNumber("LENGTH of 1", x.clock(1, 1), -0.1875);
+        x.step(0);
+        x.step(1);
+        x.step(1);
+        Edges.dueNumber("time of 0", x.clock(0, 0), 0.125);
+        Edges.dueNumber("time of 1", x.clock(1, 0), 3.125);
+        // The LENGTH that a PAIR has come to.
+        x.method(0, 4);
+        x.tolerance(0, 1, 0, 0);
+        x.step(0);
+        Edges.dueNumber("time of 0", x.clock(0, 0), 0.25);
+        Edges.dueNumber("LENGTH of 0", x.clock(0, 1), 0.5);
+        Edges.dueNumber("LENGTH of 1", x.clock(1, 1), -0.1875);
+    }
+
     private static void clock() {
         MotionStepper x = Desks.climb();
         x.step(0);
@@ -395,6 +524,62 @@ public final class EdgesOfRunsTest {
                 Edges.due("METHOD " + m, x.count(0, 4), 0);
             }
         }
+    }
+
+    private static void firstCounts() {
+        MotionStepper x = Desks.decay();
+        LawMaker law = new LawMaker(x, 1, 0);
+        law.side(0, law.table(law.time(), new double[] {1.0}, new double[] {0, 72}));
+        law.run(0, 0);
+        Edges.due("LAW of 0", x.count(0, 0), 0);
+        Edges.due("LAW of 1", x.count(1, 0), 1);
+        for (int m = 0; m < 6; m++) {
+            x.method(1, m);
+            Edges.due("METHOD", x.count(1, 1), m);
+            Edges.due("METHOD of the other one", x.count(0, 1), 0);
+        }
+        // RUN 1: a PAIR of 1 has an e of -9, and one of a half none.
+        x.method(1, 4);
+        x.length(1, 1, 0);
+        x.tolerance(1, 8, 0, 0);
+        Edges.due("a step with a REJECTED one", x.step(1), 1);
+        Edges.due("TAKEN", x.count(1, 2), 1);
+        Edges.due("REJECTED", x.count(1, 3), 1);
+        // From 1/2 by 4, 1 and 1/2, whose ERRORS are 20, 5 and 4.5, then by 1/4.
+        x.length(1, 4, 0);
+        x.tolerance(1, 1, 0, 0);
+        Edges.due("a step with three REJECTED ones", x.step(1), 3);
+        Edges.dueNumber("h", x.clock(1, 3), 0.25);
+        Edges.due("TAKEN", x.count(1, 2), 2);
+        Edges.due("all REJECTED ones", x.count(1, 3), 4);
+        Edges.due("TAKEN by 0", x.count(0, 2), 0);
+        Edges.due("steps of 0", x.to(0, 1, 0, 99), 8);
+        Edges.due("TAKEN by 0", x.count(0, 2), 8);
+        Edges.due("REJECTED by 0", x.count(0, 3), 0);
+        Edges.due("TAKEN by 1", x.count(1, 2), 2);
+    }
+
+    private static void countsOfEvents() {
+        MotionStepper x = Desks.climb();
+        x.run(0, 0, 0);
+        for (int j = 0; j < 4; j++) {
+            Edges.due("EVENTS", x.count(0, 6), j);
+            Edges.due("EVENTS of the other one", x.count(1, 6), 0);
+            x.event(0, j < 3 ? 3 : 2, 1, 0, 0);
+        }
+        Edges.due("EVENTS", x.count(0, 6), 4);
+        Edges.due("none FIRED", x.count(0, 7), 0);
+        x.step(0);
+        Edges.due("three of four", x.count(0, 7), 3);
+        x.length(0, -1, 0);
+        x.step(0);
+        x.length(0, -1, 0);
+        x.step(0);
+        x.length(0, 2, 0);
+        x.step(0);
+        Edges.due("three more", x.count(0, 7), 6);
+        Edges.due("none of the other one", x.count(1, 7), 0);
+        Edges.due("EVENTS", x.count(0, 6), 4);
     }
 
     private static void endedOrNot() {
@@ -460,6 +645,38 @@ public final class EdgesOfRunsTest {
         for (int what = 0; what < 8; what++) {
             Edges.due("count " + what, x.count(0, what), 0);
         }
+    }
+
+    private static void stagesOfLatest() {
+        // x0' = t, x1' = x0: all k of a PAIR from time 1 by 1/2, in numbers that do not round.
+        LawMaker law = new LawMaker(new MotionStepper(), 2, 0);
+        law.side(0, law.time()).side(1, law.state(0));
+        MotionStepper x = law.desk;
+        law.run(1, 0);
+        x.set(0, 0, 4, 0);
+        x.length(0, 1, 1);
+        x.method(0, 4);
+        x.tolerance(0, 1, 0, 0);
+        x.step(0);
+        double[] times = {1, 1.25, 1.375, 1.5};
+        double[] states = {4, 4.25, 4 + 0.375 * 1.25, Double.longBitsToDouble(x.state(0, 0))};
+        for (int j = 1; j <= 4; j++) {
+            Edges.dueNumber("k" + j + " of 0", x.stage(0, j, 0), times[j - 1]);
+            Edges.dueNumber("k" + j + " of 1", x.stage(0, j, 1), states[j - 1]);
+        }
+        Edges.dueNumber("e of 0", x.stage(0, 5, 0), 0.0);
+        double e = (0.5 / 72) * (((6 * states[1] + 8 * states[2]) - 5 * states[0]) - 9 * states[3]);
+        Edges.dueNumber("e of 1", x.stage(0, 5, 1), e);
+        // The latest one alone, and of this RUN alone.
+        law.run(5, 0);
+        Edges.due("none of another RUN", x.stage(1, 1, 0), NONE);
+        x.method(0, 0);
+        x.set(0, 0, 7, 0);
+        Edges.dueNumber("no step since", x.stage(0, 1, 1), 4.0);
+        x.step(0);
+        Edges.dueNumber("the latest one's k1", x.stage(0, 1, 1), 7.0);
+        Edges.due("no k2 any more", x.stage(0, 2, 1), NONE);
+        Edges.due("no e any more", x.stage(0, 5, 1), NONE);
     }
 
     private static void stage() {

@@ -30,6 +30,14 @@ public final class EdgesOfStepsTest {
             + "k2 put into the PLACES; k3 = f(t + h, z); the SPEEDS of z become y + g * k3 (put)."};
 
     public static void main(String[] args) {
+        Edges.sentence("f(t, x) is the row of the values of all SIDES at t and x.",
+            EdgesOfStepsTest::rowOfSides);
+        Edges.sentence("Of rows of NUMBERS all is said VARIABLE by VARIABLE",
+            EdgesOfStepsTest::variableByVariable);
+        Edges.sentence("y = .. puts (as told) what is reckoned, so a state is made of what was put",
+            EdgesOfStepsTest::whatIsPut);
+        Edges.sentence("k1, k2, .. are rows of values.", EdgesOfStepsTest::rowsOfValues);
+        Edges.sentence("h is the length of the step, g is h / 2.", EdgesOfStepsTest::lengthAndHalf);
         for (int m = 0; m < METHODS.length; m++) {
             int method = m;
             Edges.sentence(METHODS[m], () -> written(method));
@@ -47,9 +55,9 @@ public final class EdgesOfStepsTest {
         Edges.sentence("What is made last (y, z) is the new state, t + h the new time.",
             EdgesOfStepsTest::newTime);
         Edges.sentence("A step is WILD if a value in one of its k", EdgesOfStepsTest::wildStages);
-        Edges.sentence("its new state, its e, or its new time is not FINITE",
+        Edges.sentence("its new state, its e, or its new time is not FINITE.",
             EdgesOfStepsTest::wildEnds);
-        Edges.sentence("the RATIO of a VARIABLE is the size of e divided by (a + r * m), a and r being "
+        Edges.sentence("A PAIR looks at its step: the RATIO of a VARIABLE is the size of e divided by (a + r * m), a and r being "
             + "the TOLERANCES and m the greater one of the sizes of its old and its new state",
             EdgesOfStepsTest::ratio);
         Edges.sentence("the ERROR is the greatest RATIO (0.0 at first).", EdgesOfStepsTest::greatestRatio);
@@ -68,7 +76,9 @@ public final class EdgesOfStepsTest {
             EdgesOfStepsTest::twentyFirst);
         Edges.sentence("(Steps of other METHODS are TAKEN if they aren't WILD.)",
             EdgesOfStepsTest::otherMethods);
-        Edges.sentence("how many were REJECTED ahead of it. NUMBER: there is no such RUN; STATE: it is "
+        Edges.sentence("A step, TAKEN, and its EVENTS: how many were REJECTED ahead of it.",
+            EdgesOfStepsTest::stepAndEvents);
+        Edges.sentence("NUMBER: there is no such RUN; STATE: it is "
             + "ENDED; WILD: one of the steps made is; SMALL: REFUSED.", EdgesOfStepsTest::step);
         Edges.sentence("Two halves less one step: for VARIABLE i the new state of one step of h, the "
             + "LENGTH, taken from that of two steps of h / 2 one behind the other (the second one from the "
@@ -293,6 +303,185 @@ public final class EdgesOfStepsTest {
                     row == null ? NONE : Double.doubleToLongBits(row[i]));
             }
         }
+    }
+
+    // ---- rows
+
+    /** SIDES by state and time, one of them that of two VARIABLES; k1 is what value() tells ahead. */
+    private static void rowOfSides() {
+        LawMaker law = new LawMaker(new MotionStepper(), 6, 0);
+        int time = law.time();
+        int[] sides = {law.state(5), law.constant(-3, 1), time, law.node(4, law.state(1), time, 0),
+            law.node(6, law.state(4), 0, 0), law.constant(0, 0)};
+        sides[5] = sides[3];
+        for (int i = 0; i < 6; i++) {
+            law.side(i, sides[i]);
+        }
+        law.run(3, 0);
+        MotionStepper x = law.desk;
+        for (int m = 0; m <= 6; m++) {
+            x.method(0, m);
+            x.length(0, 1, 4);
+            x.tolerance(0, Long.MAX_VALUE, 0, 0);
+            for (int i = 0; i < 6; i++) {
+                x.set(0, i, 7 * i - 11, 2);
+            }
+            long[] ahead = new long[6];
+            for (int i = 0; i < 6; i++) {
+                ahead[i] = x.value(0, sides[i]);
+            }
+            double t = number(x.clock(0, 0));
+            double[] want = {24 / 4.0, -1.5, t, -t, -17 / 4.0, -t};
+            Edges.due("step", x.step(0), 0);
+            for (int i = 0; i < 6; i++) {
+                Edges.dueNumber("METHOD " + m + ", f of " + i, x.stage(0, 1, i), want[i]);
+                Edges.due("METHOD " + m + ", the side of " + i, x.stage(0, 1, i), ahead[i]);
+            }
+        }
+    }
+
+    /** xi' = t - c * xi: a LAW of three such VARIABLES does what three LAWS of one do. */
+    private static void variableByVariable() {
+        long[] factors = {1, -3, 5};
+        for (int m = 0; m < 6; m++) {
+            MotionStepper beside = apart(factors, m);
+            for (int i = 0; i < 3; i++) {
+                MotionStepper alone = apart(new long[] {factors[i]}, m);
+                Edges.due("METHOD " + m + ", state " + i, beside.state(0, i), alone.state(0, 0));
+                for (int j = 1; j <= 5; j++) {
+                    Edges.due("METHOD " + m + ", k" + j + " of " + i, beside.stage(0, j, i),
+                        alone.stage(0, j, 0));
+                }
+            }
+        }
+    }
+
+    /** Behind three steps from time 1; where a VARIABLE begins goes by its factor. */
+    private static MotionStepper apart(long[] factors, int method) {
+        LawMaker law = new LawMaker(new MotionStepper(), factors.length, 0);
+        int time = law.time();
+        for (int i = 0; i < factors.length; i++) {
+            int part = law.node(4, law.constant(factors[i], 3), law.state(i), 0);
+            law.side(i, law.node(3, time, part, 0));
+        }
+        law.run(1, 0);
+        MotionStepper x = law.desk;
+        x.method(0, method);
+        // So large that each step is TAKEN; the LENGTH then grows alike for all.
+        x.tolerance(0, Long.MAX_VALUE, 0, 0);
+        for (int i = 0; i < factors.length; i++) {
+            x.set(0, i, 5 - 2 * factors[i], 1);
+        }
+        for (int round = 0; round < 3; round++) {
+            Edges.due("step", x.step(0), 0);
+        }
+        return x;
+    }
+
+    /** x' = x from 1 in a NARROW VARIABLE: each k behind k1 is a state that was put, so a float. */
+    private static void whatIsPut() {
+        for (int m = 0; m < 6; m++) {
+            LawMaker law = new LawMaker(new MotionStepper(), 1, 1);
+            law.side(0, law.state(0));
+            law.run(0, 0);
+            MotionStepper x = law.desk;
+            x.set(0, 0, 1, 0);
+            x.method(0, m);
+            x.tolerance(0, Long.MAX_VALUE, 0, 0);
+            for (int round = 0; round < 4; round++) {
+                long ahead = x.state(0, 0);
+                x.length(0, 11184811, 25);
+                Edges.due("step", x.step(0), 0);
+                Edges.due("k1 is the state", x.stage(0, 1, 0), ahead);
+                for (int j = 1; j <= STAGES[m]; j++) {
+                    dueFloat("METHOD " + m + ", k" + j, number(x.stage(0, j, 0)));
+                }
+                dueFloat("METHOD " + m + ", state", number(x.state(0, 0)));
+            }
+            if (m == 0) {
+                float put = 1;
+                for (int round = 0; round < 4; round++) {
+                    put = (float) (put + 11184811 * 0x1p-25 * put);
+                }
+                Edges.dueNumber("made of what was put", x.state(0, 0), put);
+            }
+        }
+    }
+
+    private static final int[] STAGES = {1, 2, 3, 4, 4, 2, 3};
+
+    private static void dueFloat(String what, double a) {
+        Edges.dueNumber(what + " is a float", Double.doubleToLongBits(a), (float) a);
+    }
+
+    /** x' = 1/3 in a NARROW VARIABLE: no k is put, nor is e; the state is. */
+    private static void rowsOfValues() {
+        for (int m = 0; m <= 6; m++) {
+            LawMaker law = new LawMaker(new MotionStepper(), 2, 3);
+            int third = law.node(5, law.constant(1, 0), law.constant(3, 0), 0);
+            law.side(0, third).side(1, third);
+            law.run(0, 0);
+            MotionStepper x = law.desk;
+            x.method(0, m);
+            x.length(0, 1, 0);
+            Edges.due("step", x.step(0), 0);
+            for (int j = 1; j <= STAGES[m]; j++) {
+                for (int i = 0; i < 2; i++) {
+                    Edges.dueNumber("METHOD " + m + ", k" + j + " of " + i, x.stage(0, j, i), 1 / 3.0);
+                }
+            }
+            dueFloat("METHOD " + m + ", state", number(x.state(0, 0)));
+        }
+        // An e that is no float: x' jumps to 1/3 at time 1.
+        LawMaker law = new LawMaker(new MotionStepper(), 1, 1);
+        int third = law.node(5, law.constant(1, 0), law.constant(3, 0), 0);
+        law.side(0, law.below(law.time(), 1, law.constant(0, 0), third));
+        law.run(0, 0);
+        law.desk.method(0, 4);
+        law.desk.length(0, 1, 0);
+        law.desk.tolerance(0, 1, 0, 0);
+        Edges.due("step", law.desk.step(0), 0);
+        double e = (1.0 / 72) * (0.0 - 9 * (1 / 3.0));
+        Edges.dueTrue("e is no float", e != (float) e);
+        Edges.dueNumber("e", law.desk.stage(0, 5, 0), e);
+    }
+
+    /** x' = t tells at which times the k are. */
+    private static void lengthAndHalf() {
+        // In parts of h: t, t + g, t + d, t + h, as the METHODS have them.
+        double[][] parts = {{0}, {0, 0.5}, {0, 0.5, 1}, {0, 0.5, 0.5, 1}, {0, 0.5, 0.75, 1}, {0, 1}, {0, 0.5, 1}};
+        long[] lengths = {8, -8, 4096};
+        for (int m = 0; m <= 6; m++) {
+            for (long n : lengths) {
+                LawMaker law = new LawMaker(new MotionStepper(), 2, 0);
+                int time = law.time();
+                law.side(0, time).side(1, time);
+                law.run(3, 0);
+                MotionStepper x = law.desk;
+                x.method(0, m);
+                x.length(0, n, 2);
+                x.tolerance(0, Long.MAX_VALUE, 0, 0);
+                Edges.due("step", x.step(0), 0);
+                double h = n / 4.0;
+                Edges.dueNumber("h is the LENGTH", x.clock(0, 3), h);
+                for (int j = 1; j <= parts[m].length; j++) {
+                    Edges.dueNumber("METHOD " + m + ", time of k" + j, x.stage(0, j, 1), 3 + h * parts[m][j - 1]);
+                }
+                // A CUT one goes by its own h.
+                x.length(0, n, 2);
+                Edges.due("CUT", x.to(0, 4 * 3 + n + n / 2, 2, 9), 1);
+                Edges.dueNumber("h", x.clock(0, 3), h / 2);
+                for (int j = 1; j <= parts[m].length; j++) {
+                    Edges.dueNumber("METHOD " + m + ", CUT, time of k" + j, x.stage(0, j, 1),
+                        3 + h + h / 2 * parts[m][j - 1]);
+                }
+            }
+        }
+        // One made anew goes by the h that it has then.
+        MotionStepper x = nine(9, 3);
+        Edges.due("REJECTED", x.step(0), 1);
+        Edges.dueNumber("h", x.clock(0, 3), 0.5);
+        Edges.dueNumber("t + h", x.clock(0, 0), 0.5);
     }
 
     // ---- LEAP
@@ -767,6 +956,41 @@ public final class EdgesOfStepsTest {
             Edges.dueNumber("its LENGTH stays", x.clock(0, 1), 0x1p-30);
             Edges.due("none REJECTED", x.count(0, 3), 0);
         }
+    }
+
+    private static void stepAndEvents() {
+        // A PAIR of 4 is REJECTED, one of 2 isn't; its EVENTS come at 1 and at 2, where x' begins.
+        LawMaker law = new LawMaker(new MotionStepper(), 1, 0);
+        int time = law.time();
+        int first = law.node(3, time, law.constant(1, 0), 0);
+        int second = law.node(3, time, law.constant(2, 0), 0);
+        law.side(0, law.table(time, new double[] {4}, new double[] {1, 19}));
+        law.run(0, 0);
+        MotionStepper x = law.desk;
+        x.method(0, 4);
+        x.length(0, 4, 0);
+        x.tolerance(0, 8, 0, 0);
+        x.event(0, second, 1, 2, 0);
+        x.event(0, first, 1, 0, 0);
+        Edges.due("one REJECTED", x.step(0), 1);
+        Edges.dueNumber("h", x.clock(0, 3), 2.0);
+        Edges.due("one TAKEN", x.count(0, 2), 1);
+        Edges.due("both FIRED", x.count(0, 7), 2);
+        Edges.due("the first one", x.fired(0, 0, 0), 1);
+        Edges.due("the second one", x.fired(0, 1, 0), 0);
+        Edges.dueNumber("its action", x.state(0, 0), -2.0);
+        // What would come at 0.75 does not come in a REJECTED step to 1, but in the next one.
+        MotionStepper y = nine(9, 3);
+        y.constant(0, 3, 2);
+        y.node(0, 3, 0, y.many(3) - 1, 0);
+        y.event(0, y.many(3) - 1, 1, 1, 0);
+        Edges.due("one REJECTED", y.step(0), 1);
+        Edges.due("none FIRED", y.count(0, 7), 0);
+        Edges.dueNumber("at 0.5", y.clock(0, 0), 0.5);
+        y.tolerance(0, 9, 0, 0);
+        Edges.due("none REJECTED", y.step(0), 0);
+        Edges.due("FIRED at 0.75", y.count(0, 7), 1);
+        Edges.dueNumber("when", y.fired(0, 0, 1), 0.75);
     }
 
     private static void step() {

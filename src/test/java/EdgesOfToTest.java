@@ -11,6 +11,8 @@ public final class EdgesOfToTest {
     private static final long UNIT = 1L << 30;
 
     public static void main(String[] args) {
+        Edges.sentence("Steps until the time is T = n / 2^k: how many were TAKEN.",
+            EdgesOfToTest::untilT);
         Edges.sentence("Each step has the LENGTH, or T - t (the difference, as a NUMBER) if the size of "
             + "that isn't above the LENGTH's: then it is CUT", EdgesOfToTest::cut);
         Edges.sentence("if it is TAKEN as it was CUT, the time becomes T itself",
@@ -39,6 +41,38 @@ public final class EdgesOfToTest {
         x.method(0, 4);
         x.length(0, n, k);
         return x;
+    }
+
+    private static void untilT() {
+        long[] targets = {1, 3, 8, 25};
+        int[] powers = {0, 2, 3, 3};
+        int[] taken = {8, 6, 8, 25};
+        for (int i = 0; i < targets.length; i++) {
+            for (int sign = -1; sign <= 1; sign += 2) {
+                MotionStepper x = Desks.decay();
+                x.length(0, sign, 3);
+                double want = 1;
+                for (int round = 0; round < taken[i]; round++) {
+                    want = want + sign * 0.125 * -want;
+                }
+                Edges.due("to " + targets[i], x.to(0, sign * targets[i], powers[i], 200), taken[i]);
+                Edges.dueNumber("time", x.clock(0, 0), sign * targets[i] / Math.pow(2, powers[i]));
+                Edges.dueNumber("state", x.state(0, 0), want);
+                Edges.due("TAKEN", x.count(0, 2), taken[i]);
+                Edges.due("there", x.to(0, sign * targets[i], powers[i], 200), 0);
+            }
+        }
+        // REJECTED ones are none of them.
+        MotionStepper y = rejectedWhenCut();
+        int many = y.to(0, 1, 0, 200);
+        Edges.dueTrue("REJECTED ones", y.count(0, 3) > 0);
+        Edges.due("TAKEN ones alone", many, y.count(0, 2));
+        Edges.dueNumber("time", y.clock(0, 0), 1.0);
+        // From where the last call has come to.
+        MotionStepper z = Desks.decay();
+        Edges.due("to 1", z.to(0, 1, 0, 200), 8);
+        Edges.due("to 3", z.to(0, 3, 0, 200), 16);
+        Edges.due("TAKEN", z.count(0, 2), 24);
     }
 
     private static void cut() {

