@@ -678,6 +678,7 @@ public final class EdgesOfStepsTest {
                 }
             }
         }
+        wildByState();
         // One of several VARIABLES is enough, whichever it is.
         for (int i = 0; i < 6; i++) {
             LawMaker law = new LawMaker(new MotionStepper(), 6, 0);
@@ -688,6 +689,32 @@ public final class EdgesOfStepsTest {
             }
             law.run(0, 0);
             Edges.due("variable " + i, law.desk.step(0), WILD);
+        }
+    }
+
+    /** One k alone is not FINITE, by the state that it is at: each k from 0 by 1 is at one of its own. */
+    private static void wildByState() {
+        double[] limits = {0.5, 2, 7};
+        int[] methods = {1, 2, 3, 4};
+        double[][] values = {{2, 6, 0, 1}, {2, 6, 0, 1}, {2, 6, 10, 1}, {2, 6, 16, 1}};
+        // Which of the values each k is.
+        int[][] places = {{0, 1}, {0, 1, 3}, {0, 1, 2, 3}, {0, 1, 2, 3}};
+        for (int c = 0; c < methods.length; c++) {
+            MotionStepper x = byState(methods[c], limits, values[c]);
+            x.tolerance(0, Long.MAX_VALUE, 0, 0);
+            Edges.due("all are FINITE", x.step(0), 0);
+            for (int j = 0; j < places[c].length; j++) {
+                String what = "METHOD " + methods[c] + ", k" + (j + 1);
+                Edges.dueNumber(what, x.stage(0, j + 1, 0), values[c][places[c][j]]);
+                for (double a : NOT_FINITE) {
+                    double[] others = values[c].clone();
+                    others[places[c][j]] = a;
+                    MotionStepper y = byState(methods[c], limits, others);
+                    y.tolerance(0, Long.MAX_VALUE, 0, 0);
+                    Edges.due(what + " is " + a, y.step(0), WILD);
+                    Edges.due("none TAKEN", y.count(0, 2), 0);
+                }
+            }
         }
     }
 
